@@ -282,62 +282,94 @@ public final class IndexedCompiler {
         return NONE;
     }
 
-    /** The characters typed, and the WORD, NUMBER or SIGN of them that is read now. */
+    /** The characters typed, and the WORDS, NUMBERS and SIGNS that they are. */
     private static final class Line {
         static final int LONGEST = 480;
-        static final int END = 0, WRONG = 1, WORD = 2, NUMBER = 3, MARK = 4;
+        static final int END = 0, WRONG = 1, KEPT = 2, WORD = 3, NUMBER = 4, MARK = 5;
         static final int ASSIGN = 1, AT_MOST = 2, AT_LEAST = 3;
         static final String MARKS = "{|}(),:=;+-*/&<>[]";
         static final int WORD_LETTERS = 6;
         static final int NUMBER_DIGITS = 3;
+        // Words as numbers: each letter counts 1 to 26, to the base of 32.
+        static final int FUN = (6 * 32 + 21) * 32 + 14;
+        static final int INT = (9 * 32 + 14) * 32 + 20;
+        static final int ROW = (18 * 32 + 15) * 32 + 23;
+        static final int LET = (12 * 32 + 5) * 32 + 20;
+        static final int IN = 9 * 32 + 14;
+        static final int IF = 9 * 32 + 6;
+        static final int THEN = ((20 * 32 + 8) * 32 + 5) * 32 + 14;
+        static final int ELSE = ((5 * 32 + 12) * 32 + 19) * 32 + 5;
+        static final int DONE = (5 * 32 + 14) * 32 + 4;
+        static final int LEN = (12 * 32 + 5) * 32 + 14;
+        static final int NEW = (14 * 32 + 5) * 32 + 23;
+        static final int OUT = (15 * 32 + 21) * 32 + 20;
+        static final int[] NO_NAMES = {FUN, INT, ROW, LET, IN, IF, THEN, ELSE, DONE, LEN, NEW, OUT};
 
-        final char[] signs;
+        private final char[] signs;
         int length;
+        private final int[] kinds;
+        private final int[] places;
+        private final int[] worths;
+        private int many;
+        private int next;
+        // Of the one that is read now:
         int kind;
         int at;
         int worth;
-        private int behind;
 
         Line() {
             signs = new char[LONGEST];
             length = 0;
+            kinds = new int[LONGEST + 1];
+            places = new int[LONGEST + 1];
+            worths = new int[LONGEST + 1];
+            many = 0;
+            next = 0;
             kind = END;
             at = 0;
             worth = 0;
-            behind = 0;
         }
 
         void append(int four) {
             for (int shift = 24; shift >= 0; shift -= 8) {
                 int sign = (four >>> shift) & 255;
-                if (sign != 0 && length >= 0 && length < signs.length) {
+                if (sign != 0 && length >= 0 && length < LONGEST) {
                     signs[length] = (char) sign;
                     length++;
                 }
             }
         }
 
-        void rewind() {
-            behind = 0;
+        /** Finds all WORDS, NUMBERS and SIGNS, wrong ones too, and begins with the first. */
+        void split() {
+            many = 0;
+            int from = 0;
+            while (from < length && many < LONGEST) {
+                char sign = sign(from);
+                if (sign == ' ') {
+                    from++;
+                } else if (isLetter(sign)) {
+                    from = takeWord(from);
+                } else if (isDigit(sign)) {
+                    from = takeNumber(from);
+                } else {
+                    from = takeMark(from);
+                }
+            }
+            note(END, length, 0);
+            next = 0;
             advance();
         }
 
+        /** Behind the last one it stays at the end. */
         void advance() {
-            at = behind;
-            while (at < length && sign(at) == ' ') {
-                at++;
+            int now = next < many ? next : many - 1;
+            if (now >= 0 && now <= LONGEST) {
+                kind = kinds[now];
+                at = places[now];
+                worth = worths[now];
             }
-            behind = at;
-            if (at >= length) {
-                kind = END;
-                worth = 0;
-            } else if (isLetter(sign(at))) {
-                takeWord();
-            } else if (isDigit(sign(at))) {
-                takeNumber();
-            } else {
-                takeMark();
-            }
+            next = now + 1;
         }
 
         boolean isMark(int mark) {
@@ -345,7 +377,7 @@ public final class IndexedCompiler {
         }
 
         boolean isWord(int word) {
-            return kind == WORD && worth == word;
+            return kind == KEPT && worth == word;
         }
 
         /** 0 to 4 as the document counts RELATIONS, NONE if it is none. */
@@ -369,8 +401,17 @@ public final class IndexedCompiler {
             }
         }
 
+        private void note(int newKind, int newPlace, int newWorth) {
+            if (many >= 0 && many <= LONGEST) {
+                kinds[many] = newKind;
+                places[many] = newPlace;
+                worths[many] = newWorth;
+                many++;
+            }
+        }
+
         private char sign(int k) {
-            return k >= 0 && k < length && k < signs.length ? signs[k] : 0;
+            return k >= 0 && k < length && k < LONGEST ? signs[k] : 0;
         }
 
         private static boolean isLetter(char sign) {
@@ -381,35 +422,45 @@ public final class IndexedCompiler {
             return sign >= '0' && sign <= '9';
         }
 
-        private void takeWord() {
-            worth = 0;
+        private int takeWord(int from) {
+            int word = 0;
+            int behind = from;
             while (behind < length && isLetter(sign(behind))) {
-                worth = worth * 32 + (sign(behind) - 'a' + 1);
+                word = word * 32 + (sign(behind) - 'a' + 1);
                 behind++;
             }
-            kind = behind - at <= WORD_LETTERS ? WORD : WRONG;
+            note(behind - from > WORD_LETTERS ? WRONG : isNoName(word) ? KEPT : WORD, from, word);
+            return behind;
         }
 
-        private void takeNumber() {
-            worth = 0;
+        private static boolean isNoName(int word) {
+            for (int k = 0; k < NO_NAMES.length; k++) {
+                if (NO_NAMES[k] == word) {
+                    return true;
+                }
+            }
+            return false;
+        }
+
+        private int takeNumber(int from) {
+            int number = 0;
+            int behind = from;
             while (behind < length && isDigit(sign(behind))) {
-                worth = worth * 10 + (sign(behind) - '0');
+                number = number * 10 + (sign(behind) - '0');
                 behind++;
             }
-            kind = behind - at <= NUMBER_DIGITS ? NUMBER : WRONG;
+            note(behind - from > NUMBER_DIGITS ? WRONG : NUMBER, from, number);
+            return behind;
         }
 
-        private void takeMark() {
-            worth = sign(at);
-            behind = at + 1;
-            kind = MARKS.indexOf(sign(at)) >= 0 ? MARK : WRONG;
-            if (sign(behind) != '=') {
-                return;
+        private int takeMark(int from) {
+            int mark = sign(from);
+            if (sign(from + 1) == '=' && (mark == ':' || mark == '<' || mark == '>')) {
+                note(MARK, from, mark == ':' ? ASSIGN : mark == '<' ? AT_MOST : AT_LEAST);
+                return from + 2;
             }
-            if (worth == ':' || worth == '<' || worth == '>') {
-                worth = worth == ':' ? ASSIGN : worth == '<' ? AT_MOST : AT_LEAST;
-                behind++;
-            }
+            note(MARKS.indexOf(sign(from)) >= 0 ? MARK : WRONG, from, mark);
+            return from + 1;
         }
     }
 
@@ -468,18 +519,25 @@ public final class IndexedCompiler {
         }
 
         int of(int node, int field) {
-            return isThere(node, field) ? nodes[node * FIELDS + field] : 0;
+            if (node < 1 || node >= size || node >= NODES || field < 0 || field >= FIELDS) {
+                return 0;
+            }
+            return nodes[node * FIELDS + field];
         }
 
         void alter(int node, int field, int number) {
-            if (isThere(node, field)) {
-                nodes[node * FIELDS + field] = number;
+            if (node < 1 || node >= size || node >= NODES || field < 0 || field >= FIELDS) {
+                return;
             }
+            nodes[node * FIELDS + field] = number;
         }
 
         /** The next one of a chain; later ones have greater numbers, so that every chain has an end. */
         int after(int node) {
-            int next = of(node, NEXT);
+            if (node < 1 || node >= size || node >= NODES) {
+                return 0;
+            }
+            int next = nodes[node * FIELDS + NEXT];
             return next > node ? next : 0;
         }
 
@@ -516,34 +574,12 @@ public final class IndexedCompiler {
             }
             return false;
         }
-
-        private boolean isThere(int node, int field) {
-            return node > 0 && node < size && node < NODES && field >= 0 && field < FIELDS;
-        }
     }
 
     /** Makes a tree of THE LINE, or finds the place where it cannot go on as a FUNCTION. */
     private static final class Reader {
         static final int DEEPEST = 12;
         static final int MOST_NAMES = 4, MOST_PROPS = 4, MOST_PARAMETERS = 5;
-        // Words as numbers: each letter counts 1 to 26, to the base of 32.
-        static final int FUN = (6 * 32 + 21) * 32 + 14;
-        static final int INT = (9 * 32 + 14) * 32 + 20;
-        static final int ROW = (18 * 32 + 15) * 32 + 23;
-        static final int LET = (12 * 32 + 5) * 32 + 20;
-        static final int IN = 9 * 32 + 14;
-        static final int IF = 9 * 32 + 6;
-        static final int THEN = ((20 * 32 + 8) * 32 + 5) * 32 + 14;
-        static final int ELSE = ((5 * 32 + 12) * 32 + 19) * 32 + 5;
-        static final int END = (5 * 32 + 14) * 32 + 4;
-        static final int LEN = (12 * 32 + 5) * 32 + 14;
-        static final int NEW = (14 * 32 + 5) * 32 + 23;
-        static final int OUT = (15 * 32 + 21) * 32 + 20;
-        static final int[] KEPT = {
-            (6 * 32 + 21) * 32 + 14, (9 * 32 + 14) * 32 + 20, (18 * 32 + 15) * 32 + 23, (12 * 32 + 5) * 32 + 20,
-            9 * 32 + 14, 9 * 32 + 6, ((20 * 32 + 8) * 32 + 5) * 32 + 14, ((5 * 32 + 12) * 32 + 19) * 32 + 5,
-            (5 * 32 + 14) * 32 + 4, (12 * 32 + 5) * 32 + 14, (14 * 32 + 5) * 32 + 23, (15 * 32 + 21) * 32 + 20
-        };
 
         private Line line;
         private Tree tree;
@@ -559,35 +595,31 @@ public final class IndexedCompiler {
             line = text;
             tree = into;
             wrongAt = NONE;
+            tree.empty();
+            line.split();
             try {
-                readFunction();
+                takeWord(Line.FUN);
+                tree.namedAt = line.at;
+                tree.named = takeName();
+                if (line.isMark('{')) {
+                    readIndexNames();
+                }
+                takeMark('(');
+                if (!line.isMark(')')) {
+                    readParameters();
+                }
+                takeMark(')');
+                takeMark(':');
+                tree.result = readType();
+                takeMark('=');
+                tree.steps = readSteps(1);
+                if (line.kind != Line.END) {
+                    refuse();
+                }
             } catch (IllegalStateException refused) {
                 return false;
             }
             return true;
-        }
-
-        private void readFunction() {
-            tree.empty();
-            line.rewind();
-            takeWord(FUN);
-            tree.namedAt = line.at;
-            tree.named = takeName();
-            if (line.isMark('{')) {
-                readIndexNames();
-            }
-            takeMark('(');
-            if (!line.isMark(')')) {
-                readParameters();
-            }
-            takeMark(')');
-            takeMark(':');
-            tree.result = readType();
-            takeMark('=');
-            tree.steps = readSteps(1);
-            if (line.kind != Line.END) {
-                refuse();
-            }
         }
 
         private void readIndexNames() {
@@ -607,42 +639,40 @@ public final class IndexedCompiler {
             takeMark('}');
         }
 
-        private void readParameters() {
-            tree.parameters = readParameter();
-            tree.parameterCount = 1;
-            int last = tree.parameters;
-            while (tree.parameterCount < MOST_PARAMETERS && line.isMark(',')) {
-                line.advance();
-                last = follow(last, readParameter());
-                tree.parameterCount++;
-            }
-        }
-
         private int readNamed() {
             int node = tree.add(Tree.NAMED, line.at);
             tree.alter(node, Tree.WORD, takeName());
             return node;
         }
 
-        private int readParameter() {
-            int node = readNamed();
-            takeMark(':');
-            tree.alter(node, Tree.FIRST, readType());
-            return node;
+        private void readParameters() {
+            int last = 0;
+            do {
+                if (last > 0) {
+                    takeMark(',');
+                }
+                int node = readNamed();
+                takeMark(':');
+                tree.alter(node, Tree.FIRST, readType());
+                if (last > 0) {
+                    follow(last, node);
+                } else {
+                    tree.parameters = node;
+                }
+                last = node;
+                tree.parameterCount++;
+            } while (tree.parameterCount < MOST_PARAMETERS && line.isMark(','));
         }
 
         private int readType() {
             int node = tree.add(Tree.ANY, line.at);
-            if (line.isWord(ROW)) {
-                line.advance();
-                tree.alter(node, Tree.SORT, Tree.ROW);
-                readIndexOfType(node);
-                return node;
-            }
-            takeWord(INT);
-            if (line.isMark('(')) {
-                tree.alter(node, Tree.SORT, Tree.EXACT);
-                readIndexOfType(node);
+            boolean isRow = line.isWord(Line.ROW);
+            takeWord(isRow ? Line.ROW : Line.INT);
+            if (isRow || line.isMark('(')) {
+                tree.alter(node, Tree.SORT, isRow ? Tree.ROW : Tree.EXACT);
+                takeMark('(');
+                tree.alter(node, Tree.FIRST, readIndex());
+                takeMark(')');
             } else if (line.isMark('{')) {
                 line.advance();
                 tree.alter(node, Tree.SORT, Tree.SUCH);
@@ -654,55 +684,49 @@ public final class IndexedCompiler {
             return node;
         }
 
-        private void readIndexOfType(int node) {
-            takeMark('(');
-            tree.alter(node, Tree.FIRST, readIndex());
-            takeMark(')');
-        }
-
         private int readProps() {
-            int first = readProp();
-            int last = first;
-            for (int many = 1; many < MOST_PROPS && line.isMark('&'); many++) {
-                line.advance();
-                last = follow(last, readProp());
+            int first = 0;
+            int last = 0;
+            for (int many = 0; many < MOST_PROPS && (many == 0 || line.isMark('&')); many++) {
+                if (many > 0) {
+                    line.advance();
+                }
+                int node = tree.add(Tree.PROP, line.at);
+                tree.alter(node, Tree.FIRST, readIndex());
+                tree.alter(node, Tree.NUMBER, takeRelation());
+                tree.alter(node, Tree.SECOND, readIndex());
+                first = many == 0 ? node : first;
+                last = follow(last, node);
             }
             return first;
-        }
-
-        private int readProp() {
-            int node = tree.add(Tree.PROP, line.at);
-            tree.alter(node, Tree.FIRST, readIndex());
-            tree.alter(node, Tree.NUMBER, takeRelation());
-            tree.alter(node, Tree.SECOND, readIndex());
-            return node;
         }
 
         private int readIndex() {
-            int first = readTerm(1);
-            int last = first;
-            for (int many = 1; many < Line.LONGEST && isAdding(); many++) {
-                int factor = line.isMark('-') ? -1 : 1;
-                line.advance();
-                last = follow(last, readTerm(factor));
+            int first = 0;
+            int last = 0;
+            for (int many = 0; many < Line.LONGEST && (many == 0 || isAdding()); many++) {
+                int factor = many > 0 && line.isMark('-') ? -1 : 1;
+                if (many > 0) {
+                    line.advance();
+                }
+                int node = tree.add(Tree.TERM, line.at);
+                boolean isNumber = line.kind == Line.NUMBER;
+                tree.alter(node, Tree.NUMBER, isNumber ? factor * line.worth : factor);
+                if (isNumber) {
+                    line.advance();
+                }
+                if (isNumber && line.isMark('*')) {
+                    line.advance();
+                    isNumber = false;
+                }
+                if (!isNumber) {
+                    tree.alter(node, Tree.SPOT, line.at);
+                    tree.alter(node, Tree.WORD, takeName());
+                }
+                first = many == 0 ? node : first;
+                last = follow(last, node);
             }
             return first;
-        }
-
-        private int readTerm(int factor) {
-            int node = tree.add(Tree.TERM, line.at);
-            tree.alter(node, Tree.NUMBER, factor);
-            if (line.kind == Line.NUMBER) {
-                tree.alter(node, Tree.NUMBER, factor * line.worth);
-                line.advance();
-                if (!line.isMark('*')) {
-                    return node;
-                }
-                line.advance();
-            }
-            tree.alter(node, Tree.SPOT, line.at);
-            tree.alter(node, Tree.WORD, takeName());
-            return node;
         }
 
         private int readSteps(int depth) {
@@ -722,10 +746,10 @@ public final class IndexedCompiler {
 
         private int readStep(int depth) {
             refuseDeeper(depth);
-            if (line.isWord(LET)) {
+            if (line.isWord(Line.LET)) {
                 return readLet(depth);
             }
-            if (line.isWord(IF)) {
+            if (line.isWord(Line.IF)) {
                 return readChoice(depth);
             }
             int node = readSum(depth);
@@ -739,29 +763,29 @@ public final class IndexedCompiler {
 
         private int readLet(int depth) {
             int node = tree.add(Tree.LET, line.at);
-            takeWord(LET);
+            takeWord(Line.LET);
             tree.alter(node, Tree.SPOT, line.at);
             tree.alter(node, Tree.WORD, takeName());
             takeMark('=');
             int first = readStep(depth + 1);
             tree.alter(node, Tree.FIRST, first);
-            takeWord(IN);
+            takeWord(Line.IN);
             follow(first, readSteps(depth + 1));
             return node;
         }
 
         private int readChoice(int depth) {
             int node = tree.add(Tree.CHOICE, line.at);
-            takeWord(IF);
+            takeWord(Line.IF);
             int last = readSum(depth);
             tree.alter(node, Tree.FIRST, last);
             tree.alter(node, Tree.NUMBER, takeRelation());
             last = follow(last, readSum(depth));
-            takeWord(THEN);
+            takeWord(Line.THEN);
             last = follow(last, readSteps(depth + 1));
-            takeWord(ELSE);
+            takeWord(Line.ELSE);
             follow(last, readSteps(depth + 1));
-            takeWord(END);
+            takeWord(Line.DONE);
             return node;
         }
 
@@ -821,15 +845,15 @@ public final class IndexedCompiler {
             if (line.isMark('(')) {
                 return readParen(depth);
             }
-            if (line.isWord(LEN)) {
+            if (line.isWord(Line.LEN)) {
                 int node = tree.add(Tree.LENGTH, line.at);
                 line.advance();
                 tree.alter(node, Tree.SPOT, line.at);
                 tree.alter(node, Tree.WORD, takeName());
                 return node;
             }
-            if (line.isWord(NEW) || line.isWord(OUT)) {
-                int node = tree.add(line.isWord(NEW) ? Tree.FRESH : Tree.PRINT, line.at);
+            if (line.isWord(Line.NEW) || line.isWord(Line.OUT)) {
+                int node = tree.add(line.isWord(Line.NEW) ? Tree.FRESH : Tree.PRINT, line.at);
                 line.advance();
                 tree.alter(node, Tree.FIRST, readPart(depth + 1));
                 return node;
@@ -933,21 +957,12 @@ public final class IndexedCompiler {
         }
 
         private int takeName() {
-            if (line.kind != Line.WORD || isKept(line.worth)) {
+            if (line.kind != Line.WORD) {
                 refuse();
             }
             int name = line.worth;
             line.advance();
             return name;
-        }
-
-        private static boolean isKept(int word) {
-            for (int kept : KEPT) {
-                if (kept == word) {
-                    return true;
-                }
-            }
-            return false;
         }
 
         private void refuseDeeper(int depth) {
@@ -1100,10 +1115,11 @@ public final class IndexedCompiler {
     private static final class Solver {
         static final int MOST_ROWS = 80;
         static final int WIDTH = Expression.MOST_VARIABLES + 1;
+        // More of Euclid's steps than numbers of 64 bits can need.
+        static final int MOST_DIVISIONS = 200;
 
         private long[] rows;
         private long[] others;
-        private long[] marks;
         private final long[] work;
         private int kept;
         private int width;
@@ -1113,39 +1129,36 @@ public final class IndexedCompiler {
         Solver() {
             rows = new long[MOST_ROWS * WIDTH];
             others = new long[MOST_ROWS * WIDTH];
-            marks = new long[MOST_ROWS];
             work = new long[WIDTH];
+            kept = 0;
+            width = WIDTH;
+            tooMuch = false;
+            isFalse = false;
         }
 
         /** The FACTS stand in their array as rows of WIDTH numbers. */
         boolean proves(long[] facts, int many, int variables, Expression goal) {
-            start(variables);
-            for (int k = 0; k < many && !tooMuch; k++) {
-                if ((k + 1) * WIDTH <= facts.length) {
-                    System.arraycopy(facts, k * WIDTH, work, 0, WIDTH);
-                    keepTightened();
-                }
+            int left = Math.max(0, Math.min(variables, Expression.MOST_VARIABLES));
+            kept = 0;
+            width = left + 1;
+            tooMuch = false;
+            isFalse = false;
+            for (int k = 0; k < many && (k + 1) * WIDTH <= facts.length && !tooMuch; k++) {
+                System.arraycopy(facts, k * WIDTH, work, 0, WIDTH);
+                keepWork();
             }
             for (int k = 0; k < WIDTH; k++) {
                 work[k] = -goal.numbers[k];
             }
             work[0]--;
-            keepTightened();
-            for (int left = variables; left > 0 && !tooMuch && !isFalse; left--) {
-                if (left < WIDTH) {
-                    takeAway(left);
-                }
+            keepWork();
+            for (int variable = left; variable > 0 && !tooMuch && !isFalse; variable--) {
+                takeAway(variable);
             }
             return isFalse && !tooMuch;
         }
 
-        private void start(int variables) {
-            kept = 0;
-            width = variables >= 0 && variables < WIDTH ? variables + 1 : WIDTH;
-            tooMuch = false;
-            isFalse = false;
-        }
-
+        /** It has the greatest number of those that are left, so that rows become shorter by it. */
         private void takeAway(int variable) {
             long[] old = rows;
             int many = kept;
@@ -1153,34 +1166,37 @@ public final class IndexedCompiler {
             others = old;
             kept = 0;
             width = variable;
-            for (int k = 0; k < many && !tooMuch; k++) {
-                if (old[k * WIDTH + variable] == 0) {
-                    System.arraycopy(old, k * WIDTH, work, 0, width);
+            for (int first = 0; first < many && !tooMuch; first++) {
+                int one = first * WIDTH;
+                long p = old[one + variable];
+                if (p == 0) {
+                    System.arraycopy(old, one, work, 0, width);
                     keepWork();
                 }
-            }
-            for (int k = 0; k < many && !tooMuch; k++) {
-                if (old[k * WIDTH + variable] > 0) {
-                    joinWithAll(old, many, k, variable);
-                }
-            }
-        }
-
-        private void joinWithAll(long[] old, int many, int first, int variable) {
-            long p = old[first * WIDTH + variable];
-            for (int other = 0; other < many && !tooMuch; other++) {
-                long q = -old[other * WIDTH + variable];
-                if (q > 0) {
-                    for (int k = 0; k < width; k++) {
-                        work[k] = q * old[first * WIDTH + k] + p * old[other * WIDTH + k];
+                for (int second = 0; p > 0 && second < many && !tooMuch; second++) {
+                    int two = second * WIDTH;
+                    long q = -old[two + variable];
+                    if (q > 0) {
+                        for (int k = 0; k < width; k++) {
+                            work[k] = q * old[one + k] + p * old[two + k];
+                        }
+                        keepWork();
                     }
-                    keepTightened();
                 }
             }
         }
 
-        private void keepTightened() {
-            long divisor = commonDivisor();
+        /** TIGHTENS what is at work, and keeps it unless it has no VARIABLES or an alike one is less. */
+        private void keepWork() {
+            long divisor = 0;
+            for (int k = 1; k < width && divisor != 1; k++) {
+                long rest = Math.abs(work[k]);
+                for (int step = 0; step < MOST_DIVISIONS && rest != 0; step++) {
+                    long less = divisor % rest;
+                    divisor = rest;
+                    rest = less;
+                }
+            }
             if (divisor > 1) {
                 for (int k = 1; k < width; k++) {
                     work[k] /= divisor;
@@ -1188,37 +1204,20 @@ public final class IndexedCompiler {
                 work[0] = Math.floorDiv(work[0], divisor);
             }
             for (int k = 0; k < width; k++) {
-                if (work[k] > GREATEST || work[k] < -GREATEST) {
-                    tooMuch = true;
+                tooMuch |= work[k] > GREATEST || work[k] < -GREATEST;
+            }
+            if (divisor == 0) {
+                isFalse |= work[0] < 0;
+                return;
+            }
+            for (int row = 0; row < kept; row++) {
+                int from = row * WIDTH;
+                int k = 1;
+                while (k < width && rows[from + k] == work[k]) {
+                    k++;
                 }
-            }
-            if (divisor > 0) {
-                keepWork();
-            } else if (work[0] < 0) {
-                isFalse = true;
-            }
-        }
-
-        /** 0 if there are no VARIABLES in it. */
-        private long commonDivisor() {
-            long divisor = 0;
-            for (int k = 1; k < width && divisor != 1; k++) {
-                long rest = work[k] < 0 ? -work[k] : work[k];
-                // Euclid's steps; 200 are far more than numbers of 64 bits can need.
-                for (int step = 0; step < 200 && rest != 0; step++) {
-                    long next = divisor % rest;
-                    divisor = rest;
-                    rest = next;
-                }
-            }
-            return divisor;
-        }
-
-        private void keepWork() {
-            long mark = markOfWork();
-            for (int k = 0; k < kept; k++) {
-                if (marks[k] == mark && isAlike(k)) {
-                    rows[k * WIDTH] = Math.min(rows[k * WIDTH], work[0]);
+                if (k == width) {
+                    rows[from] = Math.min(rows[from], work[0]);
                     return;
                 }
             }
@@ -1227,26 +1226,7 @@ public final class IndexedCompiler {
                 return;
             }
             System.arraycopy(work, 0, rows, kept * WIDTH, width);
-            marks[kept] = mark;
             kept++;
-        }
-
-        /** Alike rows have the same mark, so that most others need not be gone through. */
-        private long markOfWork() {
-            long mark = 0;
-            for (int k = 1; k < width; k++) {
-                mark = mark * 1000003 + work[k];
-            }
-            return mark;
-        }
-
-        private boolean isAlike(int row) {
-            for (int k = 1; k < width; k++) {
-                if (rows[row * WIDTH + k] != work[k]) {
-                    return false;
-                }
-            }
-            return true;
         }
     }
 
@@ -1254,12 +1234,18 @@ public final class IndexedCompiler {
     private static final class Ground {
         static final int FIELDS = 6;
         static final int LAST_ACCESS_SORT = 1;
+        static final int EQUAL = 2;
+        // Four PROPS, each of them told by two EXPRESSIONS.
+        static final int MOST_PENDING = 8;
 
         private final Solver solver;
         private final long[] factRows;
         private final int mostFacts;
         private final int[] goalRows;
         private final int mostGoals;
+        // What will be told together, as FACTS or as GOALS.
+        private final Expression[] pending;
+        private int pendings;
         int facts;
         int variables;
         int goals;
@@ -1274,6 +1260,11 @@ public final class IndexedCompiler {
             factRows = new long[mostFacts * Solver.WIDTH];
             mostGoals = Math.max(manyGoals, 0);
             goalRows = new int[mostGoals * FIELDS];
+            pending = new Expression[MOST_PENDING];
+            for (int k = 0; k < MOST_PENDING; k++) {
+                pending[k] = new Expression();
+            }
+            pendings = 0;
             facts = 0;
             variables = 0;
             goals = 0;
@@ -1284,7 +1275,9 @@ public final class IndexedCompiler {
         }
 
         void begin() {
-            back(0, 0);
+            pendings = 0;
+            facts = 0;
+            variables = 0;
             goals = 0;
             proved = 0;
             allNeededProved = true;
@@ -1319,29 +1312,67 @@ public final class IndexedCompiler {
             facts++;
         }
 
-        boolean proves(Expression wanted) {
-            return solver.proves(factRows, facts, variables, wanted);
+        /** Of a PROP a r b, gap is b - a. */
+        void pend(int relation, Expression gap) {
+            int many = relation == EQUAL ? 2 : 1;
+            for (int k = 0; k < many && pendings < MOST_PENDING; k++) {
+                Expression one = pending[pendings];
+                one.become(gap);
+                if (relation > EQUAL || k > 0) {
+                    one.multiply(-1);
+                }
+                if (relation == 0 || relation == 4) {
+                    one.numbers[0]--;
+                }
+                pendings++;
+            }
         }
 
-        boolean demand(Expression wanted, int function, int at, int sort) {
-            if (goals < 0 || goals >= mostGoals) {
-                fail(MANY, at);
+        void pendAsItIs(Expression one) {
+            if (pendings < MOST_PENDING) {
+                pending[pendings].become(one);
+                pendings++;
             }
-            boolean holds = proves(wanted);
-            int from = goals * FIELDS;
-            goalRows[from] = function;
-            goalRows[from + 1] = at;
-            goalRows[from + 2] = sort;
-            goalRows[from + 3] = holds ? 1 : 0;
-            goalRows[from + 4] = facts;
-            goalRows[from + 5] = variables;
-            goals++;
-            if (holds) {
-                proved++;
-            } else if (sort > LAST_ACCESS_SORT) {
-                allNeededProved = false;
+        }
+
+        void tellFacts(int at) {
+            int many = pendings;
+            pendings = 0;
+            for (int k = 0; k < many; k++) {
+                addFact(pending[k], at);
             }
-            return holds;
+        }
+
+        /** Whether all of them are PROVED. */
+        boolean tellGoals(int function, int at, int sort) {
+            int many = pendings;
+            pendings = 0;
+            boolean all = true;
+            for (int k = 0; k < many; k++) {
+                if (goals < 0 || goals >= mostGoals) {
+                    fail(MANY, at);
+                }
+                boolean holds = solver.proves(factRows, facts, variables, pending[k]);
+                int from = goals * FIELDS;
+                goalRows[from] = function;
+                goalRows[from + 1] = at;
+                goalRows[from + 2] = sort;
+                goalRows[from + 3] = holds ? 1 : 0;
+                goalRows[from + 4] = facts;
+                goalRows[from + 5] = variables;
+                goals++;
+                if (holds) {
+                    proved++;
+                } else {
+                    all = false;
+                    allNeededProved &= sort <= LAST_ACCESS_SORT;
+                }
+            }
+            return all;
+        }
+
+        boolean proves(Expression wanted) {
+            return solver.proves(factRows, facts, variables, wanted);
         }
 
         int goalNumber(int k, int field) {
@@ -1357,13 +1388,13 @@ public final class IndexedCompiler {
         static final int MOST_FACTS = 48;
         static final int MOST_GOALS = 200;
         static final int MOST_LOCALS = 10;
-        static final int FACT_SORT = -1, BELOW_SORT = 0, ABOVE_SORT = 1, PROP_SORT = 2, GIVEN_SORT = 3, TYPE_SORT = 4;
+        static final int BELOW_SORT = 0, ABOVE_SORT = 1, PROP_SORT = 2, GIVEN_SORT = 3, TYPE_SORT = 4;
         // Twelve levels of at most a sum, a product, a call's nine, a let and the three of an if.
         static final int MOST_TAKEN = 300;
         static final int MOST_SHAPES = 20;
         // Four and ten of the function itself, four and five of one that it calls, and an i.
         static final int MOST_NAMES = 24;
-        static final int EQUAL = 2;
+        // Of each RELATION; = has none.
         static final int[] CONTRARY = {3, 4, -1, 0, 1};
 
         private final Ground ground;
@@ -1378,7 +1409,6 @@ public final class IndexedCompiler {
         private final int[] words;
         private final Expression[] meanings;
         private int names;
-        private final Expression spoken;
         private int accesses;
         private int free;
         boolean accepted;
@@ -1391,7 +1421,6 @@ public final class IndexedCompiler {
             shapes = new Shape[MOST_SHAPES];
             words = new int[MOST_NAMES];
             meanings = new Expression[MOST_NAMES];
-            spoken = new Expression();
             function = NONE;
             accepted = false;
         }
@@ -1405,7 +1434,16 @@ public final class IndexedCompiler {
             accepted = false;
             ground.begin();
             try {
-                goThrough();
+                for (function = 0; function < functions; function++) {
+                    startFunction();
+                    readHeader(takeShape());
+                }
+                for (function = 0; function < functions; function++) {
+                    startFunction();
+                    Shape result = takeShape();
+                    readHeader(result);
+                    lookAt(tree.steps, result);
+                }
             } catch (IllegalStateException fault) {
                 ground.goals = 0;
                 ground.proved = 0;
@@ -1442,28 +1480,15 @@ public final class IndexedCompiler {
             }
         }
 
-        private void goThrough() {
-            for (function = 0; function < functions; function++) {
-                if (startFunction()) {
-                    readHeader(takeShape());
-                }
+        private void startFunction() {
+            if (trees[function] == null) {
+                trees[function] = new Tree();
             }
-            for (function = 0; function < functions; function++) {
-                if (startFunction()) {
-                    Shape result = takeShape();
-                    readHeader(result);
-                    lookAt(tree.steps, result);
-                }
-            }
-        }
-
-        private boolean startFunction() {
             tree = trees[function];
             ground.back(0, 0);
             taken = 0;
             shapesTaken = 0;
             names = 0;
-            return tree != null;
         }
 
         private void readHeader(Shape result) {
@@ -1474,7 +1499,8 @@ public final class IndexedCompiler {
             }
             Shape shape = takeShape();
             readProps(tree, tree.props, NONE, shape);
-            tellAll(shape, null, FACT_SORT, tree.namedAt);
+            pend(shape, null);
+            ground.tellFacts(tree.namedAt);
             for (int node = tree.parameters; node > 0; node = tree.after(node)) {
                 Expression meaning = take();
                 readShape(tree, tree.of(node, Tree.FIRST), NONE, shape);
@@ -1530,31 +1556,28 @@ public final class IndexedCompiler {
 
         // ---- INDEXES, PROPS and TYPES
 
-        /** A CALL's function has its INDEXES in a tree of its own; MANY is told at the CALL then, else manyAt is NONE. */
+        /** MANY is told at the INDEX if manyAt is NONE; a CALL's function has its INDEXES in a tree of its own. */
         private void readIndex(Tree from, int first, int manyAt, Expression into) {
             into.becomeNumber(0);
             for (int term = first; term > 0; term = from.after(term)) {
                 int factor = from.of(term, Tree.NUMBER);
-                if (from.of(term, Tree.WORD) == 0) {
+                int word = from.of(term, Tree.WORD);
+                if (word == 0) {
                     into.numbers[0] += factor;
                 } else {
-                    into.add(meaningInIndex(from, term), factor);
+                    int k = find(word);
+                    if (k < 0) {
+                        ground.fail(NAME, from.of(term, Tree.SPOT));
+                    }
+                    if (meanings[k].row) {
+                        ground.fail(KIND, from.of(term, Tree.SPOT));
+                    }
+                    into.add(meanings[k], factor);
                 }
             }
             if (into.isBeyond(MILLION)) {
                 ground.fail(MANY, manyAt == NONE ? from.of(first, Tree.AT) : manyAt);
             }
-        }
-
-        private Expression meaningInIndex(Tree from, int term) {
-            int k = find(from.of(term, Tree.WORD));
-            if (k < 0) {
-                ground.fail(NAME, from.of(term, Tree.SPOT));
-            }
-            if (meanings[k].row) {
-                ground.fail(KIND, from.of(term, Tree.SPOT));
-            }
-            return meanings[k];
         }
 
         private void readProps(Tree from, int first, int manyAt, Shape into) {
@@ -1590,56 +1613,24 @@ public final class IndexedCompiler {
             into.sort = sort;
         }
 
-        /** Tells a r b, of which gap is b - a, as FACTS or as GOALS; whether all GOALS are PROVED. */
-        private boolean tell(int relation, Expression gap, int sort, int at) {
-            spoken.become(gap);
-            if (relation > EQUAL) {
-                spoken.multiply(-1);
-            }
-            if (relation == 0 || relation == 4) {
-                spoken.numbers[0]--;
-            }
-            boolean holds = say(sort, at);
-            if (relation == EQUAL) {
-                spoken.multiply(-1);
-                holds &= say(sort, at);
-            }
-            return holds;
-        }
-
-        private boolean say(int sort, int at) {
-            if (sort == FACT_SORT) {
-                ground.addFact(spoken, at);
-                return true;
-            }
-            return ground.demand(spoken, function, at, sort);
-        }
-
-        private void tellAll(Shape shape, Expression hole, int sort, int at) {
+        /** THAT a IS T, a going in for the i of its PROPS; a function's PROPS have no i, and a is null. */
+        private void pend(Shape shape, Expression a) {
             Expression gap = take();
+            if (a != null && (shape.sort == Tree.EXACT || shape.sort == Tree.ROW)) {
+                gap.become(a);
+                gap.add(shape.index, -1);
+                ground.pend(Ground.EQUAL, gap);
+            }
             for (int k = 0; k < shape.props && k < Shape.MOST_PROPS; k++) {
                 if (shape.gaps[k] != null) {
                     gap.become(shape.gaps[k]);
-                    if (hole != null) {
-                        gap.fillHole(hole);
+                    if (a != null) {
+                        gap.fillHole(a);
                     }
-                    tell(shape.relations[k], gap, sort, at);
+                    ground.pend(shape.relations[k], gap);
                 }
             }
             taken--;
-        }
-
-        /** THAT a IS T. */
-        private void demandShape(Expression a, Shape shape, int sort, int at) {
-            if (shape.sort == Tree.SUCH) {
-                tellAll(shape, a, sort, at);
-            } else if (shape.sort != Tree.ANY) {
-                Expression gap = take();
-                gap.become(a);
-                gap.add(shape.index, -1);
-                tell(EQUAL, gap, sort, at);
-                taken--;
-            }
         }
 
         /** What HAS a TYPE. */
@@ -1653,7 +1644,8 @@ public final class IndexedCompiler {
             if (shape.sort == Tree.ROW) {
                 ground.addFact(into, at);
             } else if (shape.sort == Tree.SUCH) {
-                tellAll(shape, into, FACT_SORT, at);
+                pend(shape, into);
+                ground.tellFacts(at);
             }
         }
 
@@ -1758,11 +1750,13 @@ public final class IndexedCompiler {
                 workOutNumber(tree.after(indexNode), into);
             }
             accesses++;
-            boolean isFree = ground.demand(index, function, at, BELOW_SORT);
+            ground.pendAsItIs(index);
+            boolean isFree = ground.tellGoals(function, at, BELOW_SORT);
             index.multiply(-1);
             index.add(length, 1);
             index.numbers[0]--;
-            isFree &= ground.demand(index, function, at, ABOVE_SORT);
+            ground.pendAsItIs(index);
+            isFree &= ground.tellGoals(function, at, ABOVE_SORT);
             tree.alter(node, Tree.SECOND, isFree ? 1 : 0);
             if (isFree) {
                 free++;
@@ -1881,7 +1875,8 @@ public final class IndexedCompiler {
             int relation = tree.of(node, Tree.NUMBER);
             int contrary = relation >= 0 && relation < CONTRARY.length ? CONTRARY[relation] : NONE;
             if (contrary >= 0) {
-                tell(contrary, gap, FACT_SORT, tree.of(node, Tree.AT));
+                ground.pend(contrary, gap);
+                ground.tellFacts(tree.of(node, Tree.AT));
             }
         }
 
@@ -1892,7 +1887,8 @@ public final class IndexedCompiler {
             int then = compare(node, gap);
             int variables = ground.variables;
             int facts = ground.facts;
-            tell(tree.of(node, Tree.NUMBER), gap, FACT_SORT, at);
+            ground.pend(tree.of(node, Tree.NUMBER), gap);
+            ground.tellFacts(at);
             workOut(then, into);
             ground.back(variables, facts);
             tellContrary(node, gap);
@@ -1975,10 +1971,12 @@ public final class IndexedCompiler {
                 next++;
             }
             readProps(other, other.props, at, shape);
-            tellAll(shape, null, PROP_SORT, at);
+            pend(shape, null);
+            ground.tellGoals(function, at, PROP_SORT);
             for (int node = other.parameters; node > 0; node = other.after(node)) {
                 readShape(other, other.of(node, Tree.FIRST), at, shape);
-                demandShape(pooled(next), shape, GIVEN_SORT, at);
+                pend(shape, pooled(next));
+                ground.tellGoals(function, at, GIVEN_SORT);
                 bind(other.of(node, Tree.WORD), pooled(next));
                 next++;
             }
@@ -2025,7 +2023,8 @@ public final class IndexedCompiler {
             if (result.row != shape.isRow()) {
                 ground.fail(KIND, at);
             }
-            demandShape(result, shape, TYPE_SORT, at);
+            pend(shape, result);
+            ground.tellGoals(function, at, TYPE_SORT);
             taken--;
         }
 
@@ -2034,7 +2033,8 @@ public final class IndexedCompiler {
             int then = compare(node, gap);
             int variables = ground.variables;
             int facts = ground.facts;
-            tell(tree.of(node, Tree.NUMBER), gap, FACT_SORT, tree.of(node, Tree.AT));
+            ground.pend(tree.of(node, Tree.NUMBER), gap);
+            ground.tellFacts(tree.of(node, Tree.AT));
             lookAt(then, shape);
             ground.back(variables, facts);
             tellContrary(node, gap);
@@ -2274,10 +2274,6 @@ public final class IndexedCompiler {
         }
 
         boolean fit(Tree tree) {
-            return fitKinds(tree) && holdAll(tree, tree.props, 0, 0) && fitTypes(tree);
-        }
-
-        private boolean fitKinds(Tree tree) {
             int slot = 0;
             for (int node = tree.parameters; node > 0; node = tree.after(node)) {
                 boolean wantsRow = tree.of(tree.of(node, Tree.FIRST), Tree.SORT) == Tree.ROW;
@@ -2286,11 +2282,10 @@ public final class IndexedCompiler {
                 }
                 slot++;
             }
-            return true;
-        }
-
-        private boolean fitTypes(Tree tree) {
-            int slot = 0;
+            if (!holdAll(tree, tree.props, 0, 0)) {
+                return false;
+            }
+            slot = 0;
             for (int node = tree.parameters; node > 0; node = tree.after(node)) {
                 if (!isOf(tree, tree.of(node, Tree.FIRST), size(slot))) {
                     return false;

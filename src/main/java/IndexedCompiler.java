@@ -512,7 +512,9 @@ public final class IndexedCompiler {
             }
             int node = size;
             size++;
-            Arrays.fill(nodes, node * FIELDS, node * FIELDS + FIELDS, 0);
+            for (int field = 0; field < FIELDS; field++) {
+                nodes[node * FIELDS + field] = 0;
+            }
             alter(node, SORT, sort);
             alter(node, AT, at);
             return node;
@@ -2238,7 +2240,9 @@ public final class IndexedCompiler {
             if (isSlot(slot) && n >= 0 && n <= LONGEST_ROW) {
                 isRow[slot] = true;
                 sizes[slot] = n;
-                Arrays.fill(cells, slot * LONGEST_ROW, slot * LONGEST_ROW + n, 0);
+                for (int i = 0; i < n; i++) {
+                    cells[slot * LONGEST_ROW + i] = 0;
+                }
             }
         }
 
@@ -2516,7 +2520,9 @@ public final class IndexedCompiler {
                 return NONE;
             }
             cells[row] = size;
-            Arrays.fill(cells, row + 1, row + 1 + size, 0);
+            for (int i = 0; i < size; i++) {
+                cells[row + 1 + i] = 0;
+            }
             reports[TAKEN] = row + 1 + size;
             return row;
         }

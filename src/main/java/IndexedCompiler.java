@@ -883,7 +883,6 @@ public final class IndexedCompiler {
             if (line.isMark('[')) {
                 line.advance();
                 tree.alter(node, Tree.SORT, Tree.ACCESS);
-                refuseDeeper(depth + 1);
                 tree.alter(node, Tree.FIRST, readSum(depth + 1));
                 takeMark(']');
             } else if (line.isMark('{') || line.isMark('(')) {

@@ -22,10 +22,12 @@ public final class CheckingTest {
         goalsOfCalls();
         goalsOfTypes();
         goalsUnderIf();
+        goalsUnderIfThatIsWorkedOut();
         valuesOfIf();
         sumsAndProducts();
         expressionsThatAreTooGreat();
         shadows();
+        longFunctions();
         whatIsCounted();
         wrongArguments();
         BENCH.end();
@@ -153,6 +155,11 @@ public final class CheckingTest {
         BENCH.dueCheck(1, products(23) + "if x < 1 then x*x else x*x; 1 end");
         BENCH.dueFault(MANY, 0, products(23) + "if x < 1 then x*x else x*x; ^x*x end");
         BENCH.dueFault(NAME, 0, products(24) + "x*^y");
+        // The last VARIABLE is another than the i of a TYPE.
+        String g = "fun g{n}(k: int{i | i = n}): int(0) = 0";
+        BENCH.dueCheck(1, products(23) + "let y = x*x in g{y}(y)", g);
+        BENCH.dueCheck(0, products(23) + "let y = x*x in g{y}(y + 1)", g);
+        BENCH.dueCheck(0, products(23) + "let y = x*x in g{y + 1}(y)", g);
     }
 
     private static void manyFacts() {
@@ -285,6 +292,20 @@ public final class CheckingTest {
         BENCH.dueCheck(0, "fun f(x: int): int{r | r < 5} = if x = 5 then 1 else x end");
     }
 
+    private static void goalsUnderIfThatIsWorkedOut() {
+        String f = "fun f(x: int): int = let y = if x < 0 then x*x; (x : int{i | i < 0}) else (x : int{i | i >= 0}) end in (y : int{i | i = y})";
+        BENCH.dueCheck(1, f);
+        int then = f.indexOf("x : int{i | i < 0}");
+        int other = f.indexOf("x : int{i | i >= 0}");
+        int last = f.indexOf("y : ");
+        BENCH.dueGoals(new int[][] {{0, then, 4, 1, 1, 2}, {0, other, 4, 1, 1, 1}, {0, last, 4, 1, 0, 2}, {0, last, 4, 1, 0, 2}});
+        // VARIABLES and FACTS of an if that is looked at are gone behind it, too.
+        f = "fun f(x: int): int(0) = (if x < 0 then new 1; x*x else new 2; x*x end : int); 0";
+        BENCH.dueCheck(1, f);
+        int end = f.indexOf("0", f.indexOf(" end"));
+        BENCH.dueGoals(new int[][] {{0, end, 4, 1, 0, 2}, {0, end, 4, 1, 0, 2}});
+    }
+
     private static void valuesOfIf() {
         BENCH.dueCheck(1, "fun f(x: int): int(3) = let y = if x < 0 then 3 else 1 + 2 end in y");
         BENCH.due("variables", BENCH.c.goal(0, 5), 1);
@@ -328,6 +349,8 @@ public final class CheckingTest {
         String million = "999*999 + 999 + 999 + 1";
         BENCH.dueCheck(1, "fun f(): int = let x = " + million + " in (x : int(x))");
         BENCH.due("not beyond", BENCH.c.goal(0, 5), 0);
+        BENCH.dueCheck(1, "fun f(): int = let x = 0 - (" + million + ") in (x : int(x))");
+        BENCH.due("not beyond below", BENCH.c.goal(0, 5), 0);
         BENCH.dueCheck(0, "fun f(): int(0) = let x = " + million + " + 1 in x");
         BENCH.due("beyond, so a new variable", BENCH.c.goal(0, 5), 1);
         BENCH.dueCheck(0, "fun f(): int(0) = let x = 0 - (" + million + ") - 1 in x");
@@ -346,6 +369,18 @@ public final class CheckingTest {
         BENCH.dueCheck(1, "fun f(x: int): int = (5 : int{x | x = 5}); (x : int(x))");
         BENCH.dueFault(KIND, 0, "fun f(x: int): int = let x = new 1 in (5 : int(^x))");
         BENCH.dueCheck(1, "fun f(a: row(1)): int = let a = 3 in (3 : int(a))");
+    }
+
+    /** What is worked out leaves nothing behind, however much of it there is. */
+    private static void longFunctions() {
+        String[] all = {
+            "1+1;", "2*3;", "(1);", "(1:int(1));", "(1;1);", "let x=1 in ", "a[0]:=a[1]:=0;", "len a;", "out 1;", "g{1}(1,1);",
+            "(if 1<2 then 1 else 1 end);", "(if 1<2 then 1 else 1 end:int(1));", "(1:int{i|i=1&i<3});", "(let x=1 in x);"
+        };
+        for (String each : all) {
+            int many = each.startsWith("let") ? 9 : Math.min((480 - 40) / each.length(), each.contains(":int{") || each.contains("g{") ? 10 : 300);
+            BENCH.dueCheck(1, "fun f(a: row(2)): int = " + each.repeat(many) + "0", "fun g{n}(x: int(n), y: int): int(1) = 1");
+        }
     }
 
     private static void whatIsCounted() {

@@ -85,6 +85,7 @@ public final class FaceTest {
         BENCH.due("nothing was changed", c.type(0, 0, 0, 0, 0), 479);
         BENCH.due("480", c.type(0, 0, 0x2000, 0, 0), 480);
         BENCH.dueThrow("one more", Bench.STATE, () -> c.type(0, 0, 0, 0, 0x20));
+        BENCH.dueThrow("one more, above 127", Bench.STATE, () -> c.type(0, 0x80000000, 0, 0, 0));
         BENCH.due("none more", c.type(0, 0, 0, 0, 0), 480);
         BENCH.due("blanks alone end too soon", c.define(), IndexedCompiler.SIGN);
         BENCH.due("at the length", c.place(), 480);

@@ -232,6 +232,10 @@ public final class ReadingTest {
         BENCH.fresh();
         BENCH.dueDefined("fun a(): int = " + eleven + "f{1, 2*n}() + len a * 2 / 3; 4" + back);
         BENCH.dueDefined("fun b(): int = (" + "(".repeat(10) + "1" + " : int{i | 1 < i + n})" + ")".repeat(10));
+        BENCH.dueSign("fun f(): int = (" + eleven + "^let x = 1 in 1" + back + ")");
+        BENCH.dueSign("fun f(): int = (" + eleven + "^if 1 < 2 then 1 else 2 end" + back + ")");
+        BENCH.dueSign("fun f(): int = (" + eleven + "^a[0] := 1" + back + ")");
+        BENCH.dueSign("fun f(): int = " + eleven + "let x = ^let y = 1 in 1 in 1" + back);
         BENCH.dueSign("fun f(): int = " + eleven + "f(^1)" + back);
         BENCH.dueSign("fun f(): int = " + eleven + "a[^1]" + back);
         BENCH.dueSign("fun f(): int = " + eleven + "new ^1" + back);

@@ -109,6 +109,9 @@ public final class RunningTest {
         BENCH.dueCheck(1, "fun f(): int = 1 + (1 + (1 + (1 + f())))");
         dueRun(IndexedCompiler.STACK, 0);
         BENCH.dueTold(IndexedCompiler.STACK, 0, 251, 0, 0, 0, 51, 0);
+        // What a ; b takes away is gone.
+        BENCH.dueCheck(1, "fun f(): int = " + "1;".repeat(230) + "2");
+        dueRun(1, 2);
         // 3 numbers of each of 59 calls, and what the last one needs, are not more than 200.
         BENCH.dueCheck(1, "fun f(x: int): int = 1 + (1 + (1 + (if x > 1 then f(x - 1) else 0 end)))");
         dueRun(1, 180, 60);
@@ -161,6 +164,10 @@ public final class RunningTest {
         BENCH.dueCheck(1, "fun f(x: int): int = let a = new 99 in if x > 1 then f(x - 1) else let b = new 1 in b[0] + len b end");
         dueRun(1, 1, 5);
         BENCH.due("none comes back", BENCH.c.told(7), 502);
+        BENCH.dueCheck(1, "fun f(x: int): int = let a = new 3 in a[2] := a[2] + x; a[2]");
+        dueRun(1, 5, 5);
+        dueRun(1, 6, 6);
+        BENCH.dueCheck(1, "fun f(x: int): int = let a = new 99 in if x > 1 then f(x - 1) else let b = new 1 in b[0] + len b end");
         dueRun(IndexedCompiler.MEMORY, 0, 6);
         BENCH.due("six rows of 99", BENCH.c.told(7), 600);
     }
@@ -213,10 +220,11 @@ public final class RunningTest {
         BENCH.c.set(1, 7);
         BENCH.c.make(2, 1);
         BENCH.c.make(3, 2);
+        BENCH.c.put(3, 1, 55);
         BENCH.due("run", BENCH.c.run(0, 0, 100), IndexedCompiler.OUTSIDE);
         BENCH.due("rows are as they became", BENCH.c.get(0, 1) * 10 + BENCH.c.get(2, 0), 78);
         BENCH.due("numbers stay", BENCH.c.get(1, -1), 7);
-        BENCH.due("others stay", BENCH.c.get(3, 1), 0);
+        BENCH.due("others stay", BENCH.c.get(3, 1), 55);
         BENCH.c.put(2, 0, 1);
         BENCH.due("steps", BENCH.c.run(0, 0, 4), IndexedCompiler.STEPS);
         BENCH.due("as it became so far", BENCH.c.get(2, 0), 8);
@@ -233,6 +241,7 @@ public final class RunningTest {
         BENCH.c.set(1, 0);
         BENCH.c.make(2, 7);
         BENCH.due("a slot that is not used", BENCH.c.run(0, 0, 9), 1);
+        BENCH.due("takes no cells", BENCH.c.told(7), 3);
         BENCH.c.make(0, 1);
         BENCH.due("too short", BENCH.c.run(0, 0, 9), IndexedCompiler.UNFIT);
         BENCH.c.make(0, 3);

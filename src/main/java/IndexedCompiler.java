@@ -263,10 +263,11 @@ public final class IndexedCompiler {
 
     /** The tree behind the eighth is for a line that is read though there are eight functions. */
     private Tree treeFor(int function) {
-        if (trees[function] == null) {
-            trees[function] = new Tree();
+        int k = Math.max(0, Math.min(function, FUNCTIONS));
+        if (trees[k] == null) {
+            trees[k] = new Tree();
         }
-        return trees[function];
+        return trees[k];
     }
 
     private int sameNameAt(Tree tree) {
@@ -594,6 +595,9 @@ public final class IndexedCompiler {
         }
 
         boolean read(Line text, Tree into) {
+            if (text == null || into == null) {
+                return false;
+            }
             line = text;
             tree = into;
             wrongAt = NONE;
@@ -1428,6 +1432,9 @@ public final class IndexedCompiler {
 
         /** What the document's check answers. */
         int judge(Tree[] all, int many) {
+            if (all == null) {
+                return 0;
+            }
             trees = all;
             functions = Math.min(Math.max(many, 0), all.length);
             accesses = 0;
@@ -2072,6 +2079,9 @@ public final class IndexedCompiler {
         }
 
         void compile(Tree[] trees, int functions) {
+            if (trees == null) {
+                return;
+            }
             for (int k = 0; k < functions && k < FUNCTIONS && k < trees.length; k++) {
                 if (codes[k] == null) {
                     codes[k] = new int[MOST_NUMBERS];
@@ -2425,6 +2435,9 @@ public final class IndexedCompiler {
         }
 
         int perform(Coder from, Slots slots, int first, int howTo, int granted) {
+            if (from == null || slots == null) {
+                return UNFIT;
+            }
             coder = from;
             how = howTo;
             start(first);

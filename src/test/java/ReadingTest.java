@@ -246,6 +246,8 @@ public final class ReadingTest {
         BENCH.dueSign("fun f(): int = " + ten + "if 1 < 2 then 1 else (^1) end" + ")".repeat(10));
         BENCH.dueSign("fun f(): int = " + ten + "let x = 1 in (^1)" + ")".repeat(10));
         BENCH.dueSign("fun f(): int = " + ten + "a[1] := (^1)" + ")".repeat(10));
+        BENCH.dueSign("fun f(): int = " + ten + "f((^1), 2)" + ")".repeat(10));
+        BENCH.dueSign("fun f(): int = " + ten + "f(1, (^2))" + ")".repeat(10));
         BENCH.dueSign("fun f(): int = " + ten + "a[(^1)] := 1" + ")".repeat(10));
         BENCH.dueDefined("fun c(): int = " + ten + "if 1 < (2) then 1 else 2 end; (3)" + ")".repeat(10));
     }
@@ -307,6 +309,8 @@ public final class ReadingTest {
         BENCH.due("check", c.check(), 1);
         BENCH.dueSign("fun g(): int =^");
         BENCH.dueRefused("fun f(): int = 1", IndexedCompiler.SAME, 4);
+        BENCH.dueSign("fun h(x: int(y)): int(z) = 1^)");
+        BENCH.due("what was refused is not checked", c.check(), 1);
         BENCH.due("goals", c.count(1), 2);
         BENCH.due("accesses", c.count(3) * 10 + c.count(4), 11);
         BENCH.due("code", c.code(0, 1, 4), 11);
@@ -320,5 +324,9 @@ public final class ReadingTest {
         BENCH.dueThrow("run", Bench.STATE, () -> c.run(0, 0, 1));
         BENCH.due("check of both", c.check(), 1);
         BENCH.due("code again", c.code(1, 1, 1), 1);
+        BENCH.dueDefined("fun k(): int = h()");
+        BENCH.dueSign("fun h(): int = 1^)");
+        BENCH.due("what was refused cannot be called", c.check(), IndexedCompiler.NAME);
+        BENCH.due("place", c.place(), 15);
     }
 }

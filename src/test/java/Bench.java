@@ -10,6 +10,7 @@ final class Bench {
     static final int NOTHING = 0;
 
     private final String title;
+    private String sentence = "";
     private int wrong;
     IndexedCompiler c;
 
@@ -23,10 +24,16 @@ final class Bench {
         return c;
     }
 
+    /** From here on this sentence of the document is tested, on a new object. */
+    IndexedCompiler sentence(String text) {
+        sentence = " [" + text + "]";
+        return fresh();
+    }
+
     void due(String what, long got, long want) {
         if (got != want) {
             wrong++;
-            System.out.println(title + ": " + what + " answered " + got + ", due is " + want);
+            System.out.println(title + sentence + ": " + what + " answered " + got + ", due is " + want);
         }
     }
 
@@ -79,6 +86,22 @@ final class Bench {
     void dueSign(String marked) {
         int place = marked.indexOf('^');
         dueRefused(marked.substring(0, place) + marked.substring(place + 1), IndexedCompiler.SIGN, place);
+    }
+
+    /** The same on a new object for each, so that none has too many calls. */
+    void dueSigns(String... marked) {
+        for (String each : marked) {
+            fresh();
+            dueSign(each);
+            due("functions behind '" + each + "'", c.count(0), 0);
+        }
+    }
+
+    /** Each is a function on a new object. */
+    void dueFunctions(String... texts) {
+        for (String each : texts) {
+            functions(each);
+        }
     }
 
     void dueDefined(String text) {

@@ -8,6 +8,7 @@ final class Bench {
     static final int ARGUMENT = 1;
     static final int STATE = 2;
     static final int NOTHING = 0;
+    static final String[] RELATIONS = {"<", "<=", "=", ">=", ">"};
 
     private final String title;
     private String sentence = "";
@@ -17,6 +18,11 @@ final class Bench {
     Bench(String title) {
         this.title = title;
         fresh();
+    }
+
+    /** Whether the RELATION 0 .. 4 holds. */
+    static boolean holds(int r, int left, int right) {
+        return r == 0 ? left < right : r == 1 ? left <= right : r == 2 ? left == right : r == 3 ? left >= right : left > right;
     }
 
     IndexedCompiler fresh() {

@@ -61,7 +61,8 @@ public final class CheckerBoundaryTest {
         BENCH.dueFault(NAME, 0, "fun f(): int(^x) = x", "fun g(): int(y) = 1");
         BENCH.dueFault(NAME, 1, "fun f(): int(0) = 1", "fun g(): int = ^y", "fun h(): int = z");
         BENCH.dueFault(NAME, 0, "fun f(): int = ^y", "fun g(): int = y");
-        BENCH.dueFault(NAME, 7, "fun a(): int = x", "fun b(): int = x", "fun c(): int = x", "fun d(): int = x", "fun e(): int = x",
+        BENCH.dueFault(NAME, 7, "fun a(): int = x", "fun b(): int = x", "fun c(): int = x", "fun d(): int = x",
+            "fun e(): int = x",
             "fun g(): int = x", "fun h(): int = x", "fun k(z: int(^y)): int = x");
     }
 
@@ -80,8 +81,10 @@ public final class CheckerBoundaryTest {
     private static void stepsInTheirOrder() {
         BENCH.sentence("STEPS and what they are made of are worked out in their order");
         String[] marked = {
-            "^p; q", "1; ^q", "^p + q", "1 + ^q", "1 + 2 * ^q", "^p * q", "x[^p]", "^p[q]", "x[^p] := q", "x[0] := ^q", "^p[q] := r", "let y = ^p in q",
-            "let y = 1 in ^q", "if ^p < q then r else s end", "if 1 < ^q then r else s end", "if 1 < 2 then ^r else s end", "if 1 < 2 then 1 else ^s end",
+            "^p; q", "1; ^q", "^p + q", "1 + ^q", "1 + 2 * ^q", "^p * q", "x[^p]", "^p[q]", "x[^p] := q", "x[0] := ^q",
+            "^p[q] := r", "let y = ^p in q",
+            "let y = 1 in ^q", "if ^p < q then r else s end", "if 1 < ^q then r else s end", "if 1 < 2 then ^r else s end",
+            "if 1 < 2 then 1 else ^s end",
             "f(^p, q)", "f(x, ^q)", "out ^p + q", "new ^p; q", "(^p; q)", "1; 2; (1; ^q)"
         };
         for (String each : marked) {
@@ -91,7 +94,8 @@ public final class CheckerBoundaryTest {
 
     private static void variablesAndFactsOfEachFunction() {
         BENCH.sentence("VARIABLES are numbered from 0 on in each function");
-        BENCH.dueCheck(1, "fun f{n, m | n < m}(x: int, a: row(n)): int = a[x]", "fun g(): int = let b = new 1 in b[0]", "fun h(x: int): int = let b = new x in b[x]");
+        BENCH.dueCheck(1, "fun f{n, m | n < m}(x: int, a: row(n)): int = a[x]", "fun g(): int = let b = new 1 in b[0]",
+            "fun h(x: int): int = let b = new x in b[x]");
         int f = "fun f{n, m | n < m}(x: int, a: row(n)): int = ".length();
         int g = "fun g(): int = let b = new 1 in ".length();
         int h = "fun h(x: int): int = let b = new x in ".length();
@@ -104,10 +108,14 @@ public final class CheckerBoundaryTest {
         BENCH.sentence("An INDEX is of INDEX NAMES, of NAMES of numbers, as far as they are told before it, and i in P. NAME: there is none such (at it)");
         BENCH.dueCheck(1, "fun f{n, m | n < m}(x: int(n), y: int(x + m), z: int{i | i < x + y + n}, a: row(z)): int{r | r < z + y + x + m} = f{n, m}(x, y, z, a)");
         String[] marked = {
-            "fun f{n, m | n < ^p}(): int = 1", "fun f{n | n < ^x}(x: int): int = 1", "fun f(x: int(^x)): int = 1", "fun f(x: int(^y), y: int): int = 1",
-            "fun f(x: int{i | i < ^x}): int = 1", "fun f(x: int{i | i < 1}, y: int(^i)): int = 1", "fun f(x: int{i | i < 1}): int(^i) = 1",
-            "fun f(a: row(^a)): int = 1", "fun f(): int(^f) = 1", "fun f(): row(1 + 2*^n) = new 1", "fun f(): int = (1 : int(^n))",
-            "fun f(): int = (1 : row(^n))", "fun f(): int = (1 : int{i | i < ^n})", "fun f(): int = (1 : int{i | i < 1}) + (1 : int(^i))",
+            "fun f{n, m | n < ^p}(): int = 1", "fun f{n | n < ^x}(x: int): int = 1", "fun f(x: int(^x)): int = 1",
+            "fun f(x: int(^y), y: int): int = 1",
+            "fun f(x: int{i | i < ^x}): int = 1", "fun f(x: int{i | i < 1}, y: int(^i)): int = 1",
+            "fun f(x: int{i | i < 1}): int(^i) = 1",
+            "fun f(a: row(^a)): int = 1", "fun f(): int(^f) = 1", "fun f(): row(1 + 2*^n) = new 1",
+            "fun f(): int = (1 : int(^n))",
+            "fun f(): int = (1 : row(^n))", "fun f(): int = (1 : int{i | i < ^n})",
+            "fun f(): int = (1 : int{i | i < 1}) + (1 : int(^i))",
             "fun f{n}(): int = f{^m}()", "fun f{n, m}(): int = f{1, 2 - ^p}()"
         };
         for (String each : marked) {
@@ -121,8 +129,10 @@ public final class CheckerBoundaryTest {
         BENCH.sentence("let x = a in b: as b, x being as a in it");
         BENCH.dueCheck(1, "fun f{n}(): int = let x = 1 in (x : int(x)); f{x + n}(); x");
         String[] marked = {
-            "let x = ^x in 1", "let x = (1 : int(^x)) in 1", "(let x = 1 in x); ^x", "(let x = 1 in x) + ^x", "(1 : int(^x)); let x = 1 in x",
-            "let x = (let y = 1 in y) in ^y", "if 1 < 2 then let x = 1 in x else ^x end", "(let x = 1 in 2); f{^x}()", "let y = let x = 1 in x in ^x"
+            "let x = ^x in 1", "let x = (1 : int(^x)) in 1", "(let x = 1 in x); ^x", "(let x = 1 in x) + ^x",
+            "(1 : int(^x)); let x = 1 in x",
+            "let x = (let y = 1 in y) in ^y", "if 1 < 2 then let x = 1 in x else ^x end", "(let x = 1 in 2); f{^x}()",
+            "let y = let x = 1 in x in ^x"
         };
         for (String each : marked) {
             BENCH.dueFault(NAME, 0, "fun f{n}(): int = " + each);
@@ -133,7 +143,8 @@ public final class CheckerBoundaryTest {
         BENCH.sentence("NAME of a PARAMETER or let: its own (NAME: there is none such, or it is an INDEX NAME)");
         BENCH.dueCheck(1, "fun f{n}(x: int(n)): int = x");
         BENCH.dueCheck(1, "fun f{n}(x: int(n)): int = let n = 1 in n");
-        String[] marked = {"^n", "^m", "^m[0]", "len ^m", "^n[0]", "len ^n", "^n[0] := 1", "^m[0] := 1", "1 + ^n", "(let n = 1 in n) + ^n", "f{n}(^n)"};
+        String[] marked = {"^n", "^m", "^m[0]", "len ^m", "^n[0]", "len ^n", "^n[0] := 1", "^m[0] := 1", "1 + ^n",
+            "(let n = 1 in n) + ^n", "f{n}(^n)"};
         for (String each : marked) {
             BENCH.dueFault(NAME, 0, "fun f{n}(x: int): int = " + each);
         }
@@ -163,8 +174,10 @@ public final class CheckerBoundaryTest {
     private static void kindInIndexes() {
         BENCH.sentence("An INDEX: KIND: it is a row's (at it)");
         String[] marked = {
-            "fun f(a: row(1), x: int(^a)): int = 1", "fun f(a: row(1), x: row(^a)): int = 1", "fun f(a: row(1), x: int{i | ^a < i}): int = 1",
-            "fun f(a: row(1), x: int{i | i < 2 & i < 3 - 2*^a}): int = 1", "fun f(a: row(1)): int(1 + ^a) = 1", "fun f(a: row(1)): int = (1 : int(^a))",
+            "fun f(a: row(1), x: int(^a)): int = 1", "fun f(a: row(1), x: row(^a)): int = 1",
+            "fun f(a: row(1), x: int{i | ^a < i}): int = 1",
+            "fun f(a: row(1), x: int{i | i < 2 & i < 3 - 2*^a}): int = 1", "fun f(a: row(1)): int(1 + ^a) = 1",
+            "fun f(a: row(1)): int = (1 : int(^a))",
             "fun f(a: row(1)): int = (a : row(^a))", "fun f(): int = let b = new 1 in (1 : int(^b))"
         };
         for (String each : marked) {
@@ -180,9 +193,12 @@ public final class CheckerBoundaryTest {
     private static void numberMustBe() {
         BENCH.sentence("KIND: a number must be in [ ], behind :=, new, out, on both sides of + - * and RELATIONS, before /");
         String[] marked = {
-            "a[^?]", "a[^?] := 1", "a[0] := ^?", "new ^?; 1", "out ^?", "^? + 1", "1 + ^?", "1 + 2 + ^?", "^? - 1", "1 - ^?", "^? * 2", "2 * ^?",
-            "2 * 3 * ^?", "^? / 2", "1 + ^? / 2", "if ^? < 1 then 1 else 2 end", "if 1 < ^? then 1 else 2 end", "if ^? = 1 then 1 else 2 end",
-            "if 1 >= ^? then 1 else 2 end", "1 * ^(?)", "1 + ^(1; ?)", "out ^(?)", "1 + ^(let y = 1 in ?)", "1 + ^(if 1 < 2 then ? else ? end)"
+            "a[^?]", "a[^?] := 1", "a[0] := ^?", "new ^?; 1", "out ^?", "^? + 1", "1 + ^?", "1 + 2 + ^?", "^? - 1", "1 - ^?",
+            "^? * 2", "2 * ^?",
+            "2 * 3 * ^?", "^? / 2", "1 + ^? / 2", "if ^? < 1 then 1 else 2 end", "if 1 < ^? then 1 else 2 end",
+            "if ^? = 1 then 1 else 2 end",
+            "if 1 >= ^? then 1 else 2 end", "1 * ^(?)", "1 + ^(1; ?)", "out ^(?)", "1 + ^(let y = 1 in ?)",
+            "1 + ^(if 1 < 2 then ? else ? end)"
         };
         for (String each : marked) {
             BENCH.dueCheck(1, "fun f(x: int, a: row(1)): int = " + each.replace("^", "").replace("?", "x"));
@@ -358,8 +374,10 @@ public final class CheckerBoundaryTest {
     private static void lookedAtGoesInto() {
         BENCH.sentence("That it is LOOKED AT goes into the last one of STEPS, the STEPS of a let, both c and d of an if, and into ( ) without a TYPE");
         String[] marked = {
-            "^1", "2; ^1", "3; 2; ^1", "let x = 2 in ^1", "let x = 2 in 3; ^1", "if 1 < 2 then ^1 else ^1 end", "(^1)", "((^1))", "(2; ^1)",
-            "if 1 < 2 then 2; ^1 else let x = 1 in ^x end", "let x = 2 in if x < 3 then (^1) else (if x < 4 then ^1 else 2; ^1 end) end",
+            "^1", "2; ^1", "3; 2; ^1", "let x = 2 in ^1", "let x = 2 in 3; ^1", "if 1 < 2 then ^1 else ^1 end", "(^1)", "((^1))",
+            "(2; ^1)",
+            "if 1 < 2 then 2; ^1 else let x = 1 in ^x end",
+            "let x = 2 in if x < 3 then (^1) else (if x < 4 then ^1 else 2; ^1 end) end",
             "(let x = 1 in let y = x in (y; ^x))", "let x = (let y = 2 in y) in ^1", "(if 1 < 2 then 2 else 2 end); ^1"
         };
         for (String each : marked) {
@@ -377,7 +395,8 @@ public final class CheckerBoundaryTest {
 
     private static void lookedAtComesBehind() {
         BENCH.sentence("else it comes behind working it out");
-        String[] marked = {"^0 + 1", "^(0) + 1", "^1 * (1)", "^a[0] := 1", "^len a", "^out 1", "^out (2; 1)", "^g()", "^g() * 1", "^(1) * 1", "^1"};
+        String[] marked = {"^0 + 1", "^(0) + 1", "^1 * (1)", "^a[0] := 1", "^len a", "^out 1", "^out (2; 1)", "^g()", "^g() * 1",
+            "^(1) * 1", "^1"};
         for (String each : marked) {
             String text = "fun f(a: row(1)): int{r | r = 1 & r > 0} = " + each;
             int at = text.indexOf('^');
@@ -413,7 +432,8 @@ public final class CheckerBoundaryTest {
         BENCH.dueCheck(1, f);
         int one = f.indexOf("a[0]");
         int two = f.indexOf("a[1]");
-        BENCH.dueGoals(new int[][] {{0, two, 0, 1, 1, 0}, {0, two, 1, 1, 1, 0}, {0, one, 0, 1, 1, 0}, {0, one, 1, 1, 1, 0}, {0, one, 4, 1, 1, 0}, {0, one, 4, 1, 1, 0}});
+        BENCH.dueGoals(new int[][] {{0, two, 0, 1, 1, 0}, {0, two, 1, 1, 1, 0}, {0, one, 0, 1, 1, 0}, {0, one, 1, 1, 1, 0}, {0,
+            one, 4, 1, 1, 0}, {0, one, 4, 1, 1, 0}});
         f = "fun f(a: row(3)): int = a[a[0]] := a[1]";
         BENCH.dueCheck(1, f);
         BENCH.due("a first", BENCH.c.goal(0, 1), f.indexOf("a[0]"));
@@ -449,7 +469,8 @@ public final class CheckerBoundaryTest {
         int[] proved = {2, 2, 2, 1, 1, 0, 1, 1};
         for (int k = 0; k < accesses.length; k++) {
             for (String change : new String[] {"", " := 1"}) {
-                BENCH.dueCheck(1, "fun f(a: row(3), x: int, y: int{i | i >= 0}, z: int{i | i < 3}): int = " + accesses[k] + change);
+                BENCH.dueCheck(1, "fun f(a: row(3), x: int, y: int{i | i >= 0}, z: int{i | i < 3}): int = " + accesses[k]
+                + change);
                 BENCH.due("accesses", BENCH.c.count(3), 1);
                 BENCH.due("proved of " + accesses[k], BENCH.c.count(2), proved[k]);
                 BENCH.due("free of " + accesses[k], BENCH.c.count(4), proved[k] == 2 ? 1 : 0);
@@ -464,7 +485,8 @@ public final class CheckerBoundaryTest {
         BENCH.dueFault(NAME, 1, "fun g(a: row(1)): int(1) = a[0]; 1", "fun f(a: row(1)): int = a[0]; ^x");
         BENCH.dueFault(KIND, 1, "fun g(a: row(1)): int(1) = a[0]; 1", "fun f(a: row(1)): int = a[0]; ^a");
         BENCH.dueFault(COUNT, 1, "fun g(a: row(1)): int(1) = a[0]; 1", "fun f(a: row(1)): int = a[0]; ^g()");
-        BENCH.dueFault(MANY, 1, "fun g(a: row(1)): int(1) = a[0]; 1", "fun f(a: row(1)): int = a[0]; " + "let x = 1 in ".repeat(9) + "let ^x = 1 in 1");
+        BENCH.dueFault(MANY, 1, "fun g(a: row(1)): int(1) = a[0]; 1", "fun f(a: row(1)): int = a[0]; "
+            + "let x = 1 in ".repeat(9) + "let ^x = 1 in 1");
         // A fault goes before GOALS that are not PROVED.
         BENCH.dueFault(NAME, 1, "fun g(): int(1) = 2", "fun f(): int = ^x");
     }
@@ -547,6 +569,8 @@ public final class CheckerBoundaryTest {
         BENCH.due("check again", BENCH.c.check(), 0);
         BENCH.due("goals are told once", BENCH.c.count(1), 6);
         BENCH.due("accesses too", BENCH.c.count(3), 2);
+        BENCH.due("those that are PROVED", BENCH.c.count(2), 3);
+        BENCH.due("those that are FREE", BENCH.c.count(4), 1);
         BENCH.c.clear();
         BENCH.dueDefined("fun f(a: row(1)): int = a[0]");
         BENCH.due("check of another", BENCH.c.check(), 1);

@@ -86,6 +86,15 @@ public final class CodeBoundaryTest {
         BENCH.dueDefined("fun h(): int = x");
         BENCH.due("a fault", c.check(), IndexedCompiler.NAME);
         BENCH.dueThrow("behind a fault", Bench.STATE, () -> c.code(0, 0, 0));
+        // Though what was there before was ACCEPTED.
+        for (String text : new String[] {"fun h(): int = x", "fun h(): int(1) = 2", "fun h(): int(x) = 2"}) {
+            BENCH.dueCheck(1, "fun f(): int = 7");
+            BENCH.due("code", BENCH.c.code(0, 0, 1), 7);
+            BENCH.dueDefined(text);
+            BENCH.due("not any more", BENCH.c.check() == 1, false);
+            BENCH.dueThrow("no code", Bench.STATE, () -> BENCH.c.code(0, 0, 0));
+            BENCH.dueThrow("no run", Bench.STATE, () -> BENCH.c.run(0, 0, 9));
+        }
     }
 
     private static void toldOrClearedSince() {
@@ -149,8 +158,10 @@ public final class CodeBoundaryTest {
 
     private static void zeroWhereNoneIsTold() {
         BENCH.sentence("a code and a number (0 where none is told)");
-        BENCH.dueCheck(1, "fun f(x: int, a: row(9)): int = out len a; new 7; a[x] := a[8] + 6 - 5 * x; x", "fun g(a: row(9)): int = 1");
-        BENCH.dueCode(0, 0, 1, 1, 8, 0, 14, 0, 3, 0, 0, 7, 9, 0, 3, 0, 1, 1, 1, 0, 1, 1, 0, 8, 10, 0, 0, 6, 4, 0, 0, 5, 1, 0, 6, 0, 5, 0, 12, 0, 3, 0, 1, 0, 22, 0);
+        BENCH.dueCheck(1, "fun f(x: int, a: row(9)): int = out len a; new 7; a[x] := a[8] + 6 - 5 * x; x",
+            "fun g(a: row(9)): int = 1");
+        BENCH.dueCode(0, 0, 1, 1, 8, 0, 14, 0, 3, 0, 0, 7, 9, 0, 3, 0, 1, 1, 1, 0, 1, 1, 0, 8, 10, 0, 0, 6, 4, 0, 0, 5, 1, 0, 6,
+            0, 5, 0, 12, 0, 3, 0, 1, 0, 22, 0);
         dueBoth("fun f(): int = 0", 0, 0, 22, 0);
         dueBoth("fun f(): int = 999/999", 0, 999, 7, 999, 22, 0);
         dueBoth("fun f(): int = ((7 : int(7)))", 0, 7, 22, 0);
@@ -167,7 +178,8 @@ public final class CodeBoundaryTest {
     private static void localsOfLets() {
         BENCH.sentence("a let has the next one (those of lets that are over come again)");
         dueBoth("fun f(): int = let x = 5 in x", 0, 5, 2, 0, 1, 0, 22, 0);
-        dueBoth("fun f{n, m}(a: int, b: int): int = let x = 5 in let y = 6 in x; y", 0, 5, 2, 2, 0, 6, 2, 3, 1, 2, 3, 0, 1, 3, 22, 0);
+        dueBoth("fun f{n, m}(a: int, b: int): int = let x = 5 in let y = 6 in x; y", 0, 5, 2, 2, 0, 6, 2, 3, 1, 2, 3, 0, 1, 3,
+            22, 0);
         dueBoth("fun f(): int = (let x = 5 in x); (let y = 6 in y)", 0, 5, 2, 0, 1, 0, 3, 0, 0, 6, 2, 0, 1, 0, 22, 0);
         dueBoth("fun f(): int = let x = let y = 5 in y in x", 0, 5, 2, 0, 1, 0, 2, 0, 1, 0, 22, 0);
         dueBoth("fun f(): int = let x = 5 in let x = x in x", 0, 5, 2, 0, 1, 0, 2, 1, 1, 1, 22, 0);
@@ -181,7 +193,8 @@ public final class CodeBoundaryTest {
         BENCH.sentence("17 .. 21 take two and go on at n unless the RELATION 0 .. 4 holds");
         String[] relations = {"<", "<=", "=", ">=", ">"};
         for (int r = 0; r < 5; r++) {
-            dueBoth("fun f(x: int): int = if x " + relations[r] + " 7 then 8 else 9 end", 1, 0, 0, 7, 17 + r, 5, 0, 8, 16, 6, 0, 9, 22, 0);
+            dueBoth("fun f(x: int): int = if x " + relations[r] + " 7 then 8 else 9 end", 1, 0, 0, 7, 17 + r, 5, 0, 8, 16, 6, 0,
+                9, 22, 0);
         }
     }
 

@@ -11,15 +11,21 @@ public final class FaceBoundaryTest {
     private static final int MILLIARD = 1000000000;
     private static final int NONE = IndexedCompiler.NONE;
     private static final String[] METHODS = {
-        "boolean ask(int,int,int,int) IllegalArgumentException", "int check()", "int clear()", "int code(int,int,int) IllegalArgumentException IllegalStateException",
-        "int count(int) IllegalArgumentException", "int define()", "int erase()", "int fact(int,int,int,int) IllegalArgumentException IllegalStateException", "int forget()",
-        "int get(int,int) IllegalArgumentException IllegalStateException", "int goal(int,int) IllegalArgumentException IllegalStateException", "int place()", "int printed(int,boolean)",
-        "int run(int,int,int) IllegalArgumentException IllegalStateException", "int told(int) IllegalArgumentException", "int type(int,int,int,int,int) IllegalStateException",
-        "int value(int,int) IllegalArgumentException", "void make(int,int) IllegalArgumentException", "void put(int,int,int) IllegalArgumentException IllegalStateException",
+        "boolean ask(int,int,int,int) IllegalArgumentException", "int check()", "int clear()",
+        "int code(int,int,int) IllegalArgumentException IllegalStateException",
+        "int count(int) IllegalArgumentException", "int define()", "int erase()",
+        "int fact(int,int,int,int) IllegalArgumentException IllegalStateException", "int forget()",
+        "int get(int,int) IllegalArgumentException IllegalStateException",
+        "int goal(int,int) IllegalArgumentException IllegalStateException", "int place()", "int printed(int,boolean)",
+        "int run(int,int,int) IllegalArgumentException IllegalStateException", "int told(int) IllegalArgumentException",
+        "int type(int,int,int,int,int) IllegalStateException",
+        "int value(int,int) IllegalArgumentException", "void make(int,int) IllegalArgumentException",
+        "void put(int,int,int) IllegalArgumentException IllegalStateException",
         "void set(int,int) IllegalArgumentException"
     };
     private static final String[] CONSTANTS = {
-        "NONE", "SIGN", "SAME", "FULL", "NAME", "KIND", "COUNT", "MANY", "UNFIT", "STEPS", "STACK", "OVER", "NEGATIVE", "MEMORY", "OUTSIDE"
+        "NONE", "SIGN", "SAME", "FULL", "NAME", "KIND", "COUNT", "MANY", "UNFIT", "STEPS", "STACK", "OVER", "NEGATIVE", "MEMORY",
+        "OUTSIDE"
     };
     private static final Bench BENCH = new Bench("FaceBoundaryTest");
 
@@ -49,7 +55,8 @@ public final class FaceBoundaryTest {
 
     private static void theClass() {
         BENCH.sentence("public final class IndexedCompiler; public IndexedCompiler()");
-        BENCH.due("modifiers", IndexedCompiler.class.getModifiers() & (Modifier.PUBLIC | Modifier.FINAL), Modifier.PUBLIC | Modifier.FINAL);
+        BENCH.due("modifiers", IndexedCompiler.class.getModifiers() & (Modifier.PUBLIC | Modifier.FINAL),
+            Modifier.PUBLIC | Modifier.FINAL);
         BENCH.due("no package", IndexedCompiler.class.getPackageName().isEmpty(), true);
         Constructor<?>[] all = IndexedCompiler.class.getDeclaredConstructors();
         BENCH.due("constructors", all.length, 1);
@@ -148,7 +155,8 @@ public final class FaceBoundaryTest {
         BENCH.due("value", d.value(0, 0), 0);
         BENCH.due("desk", d.ask(0, 0, 0, -1), false);
         BENCH.due("told", d.told(2), 0);
-        BENCH.due("the first one is as it was", c.get(0, NONE) + c.value(0, 0) + c.count(0) + c.told(2) + c.forget(), 5 + 6 + 1 + 3 + 1);
+        BENCH.due("the first one is as it was", c.get(0, NONE) + c.value(0, 0) + c.count(0) + c.told(2) + c.forget(), 5 + 6 + 1
+            + 3 + 1);
     }
 
     // ---- promises 11 to 15
@@ -364,9 +372,12 @@ public final class FaceBoundaryTest {
         BENCH.due("run", c.run(0, 0, 99), 1);
         String before = picture(c);
         Bench.Call[] calls = {
-            () -> c.type(0x20202020, 0x20202020, 0x20202020, 0, 0), () -> c.count(6), () -> c.goal(0, 6), () -> c.goal(99, 0), () -> c.code(0, 2, 0), () -> c.code(0, 0, -1),
-            () -> c.code(1, 0, 0), () -> c.set(6, 1), () -> c.set(0, MILLIARD + 1), () -> c.make(-1, 1), () -> c.make(1, 41), () -> c.put(1, 2, 1), () -> c.put(0, 0, 1),
-            () -> c.put(1, 0, -MILLIARD - 1), () -> c.get(1, 2), () -> c.value(4, 1), () -> c.value(2, MILLIARD + 1), () -> c.run(0, 2, 9), () -> c.run(0, 0, 0), () -> c.run(0, 0, 20001),
+            () -> c.type(0x20202020, 0x20202020, 0x20202020, 0, 0), () -> c.count(6), () -> c.goal(0, 6), () -> c.goal(99, 0),
+            () -> c.code(0, 2, 0), () -> c.code(0, 0, -1),
+            () -> c.code(1, 0, 0), () -> c.set(6, 1), () -> c.set(0, MILLIARD + 1), () -> c.make(-1, 1), () -> c.make(1, 41),
+            () -> c.put(1, 2, 1), () -> c.put(0, 0, 1),
+            () -> c.put(1, 0, -MILLIARD - 1), () -> c.get(1, 2), () -> c.value(4, 1), () -> c.value(2, MILLIARD + 1),
+            () -> c.run(0, 2, 9), () -> c.run(0, 0, 0), () -> c.run(0, 0, 20001),
             () -> c.run(1, 0, 9), () -> c.told(8), () -> c.fact(1001, 0, 0, 0), () -> c.ask(0, 0, 0, 1000001)
         };
         for (int k = 0; k < calls.length; k++) {

@@ -8,6 +8,8 @@ public final class LineBoundaryTest {
         atMost480();
         twentyAtOnceNear480();
         everyByteIsACharacter();
+        everyByteIsOneTooMany();
+        signsAlone();
         highestByteFirst();
         byteZeroIsNone();
         tooManyChangesNothing();
@@ -62,6 +64,31 @@ public final class LineBoundaryTest {
         BENCH.due("twenty", c.type(BLANKS, BLANKS, BLANKS, BLANKS, BLANKS), 20);
         BENCH.due("twenty more, of 1", c.type(0x01010101, 0x01010101, 0x01010101, 0x01010101, 0x01010101), 40);
         BENCH.due("twenty more, of 255", c.type(-1, -1, -1, -1, -1), 60);
+    }
+
+    private static void everyByteIsOneTooMany() {
+        IndexedCompiler c = filled("type: IllegalState: it would have more than 480, by any one character", 480);
+        for (int place = 0; place < 20; place++) {
+            for (int bit = 0; bit < 8; bit++) {
+                int[] five = new int[5];
+                five[place / 4] = 1 << 24 - 8 * (place % 4) + bit;
+                BENCH.dueThrow("bit " + bit + " at " + place, Bench.STATE, () -> c.type(five[0], five[1], five[2], five[3],
+                    five[4]));
+            }
+        }
+        BENCH.due("still 480", c.erase(), 480);
+    }
+
+    private static void signsAlone() {
+        IndexedCompiler c = BENCH.sentence("a LINE of 480 SIGNS");
+        BENCH.due("typed", BENCH.type("(".repeat(480)), 480);
+        BENCH.due("define", c.define(), IndexedCompiler.SIGN);
+        BENCH.due("place", c.place(), 0);
+        c.erase();
+        String text = "fun f():int=" + "(".repeat(11) + "1";
+        BENCH.type(text + ";1".repeat((480 - text.length()) / 2));
+        BENCH.due("define", c.define(), IndexedCompiler.SIGN);
+        BENCH.due("it ends too soon", c.place(), 480);
     }
 
     private static void highestByteFirst() {
@@ -162,7 +189,8 @@ public final class LineBoundaryTest {
             "fun f(a: row(1)): int = a[0] ^: = 1", "fun f(x: int): int = if x =^< 1 then 1 else 2 end",
             "fun f(x: int): int = if x =^> 1 then 1 else 2 end", "fun f(x: int): int = if x <^> 1 then 1 else 2 end",
             "fun f(x: int): int = if x <^< 1 then 1 else 2 end", "fun f(): ^=: int = 1", "fun f(): int =^= 1");
-        BENCH.dueFunctions("fun f():int=1", "fun f(x:int):int=if x<1 then 1 else 2 end", "fun f(x:int):int=if x>1 then 1 else 2 end");
+        BENCH.dueFunctions("fun f():int=1", "fun f(x:int):int=if x<1 then 1 else 2 end",
+            "fun f(x:int):int=if x>1 then 1 else 2 end");
     }
 
     private static void blanksAre32Alone() {
@@ -195,7 +223,8 @@ public final class LineBoundaryTest {
 
     private static void blanksMayBeLeftOut() {
         BENCH.sentence("WORDS and NUMBERS end where the other begins");
-        BENCH.dueFunctions("fun f(x:int):int=if 1<2then 3else 4end", "fun f():row(1)=new1", "fun f():int=let x=1in 2", "fun f():int=out1+out2");
+        BENCH.dueFunctions("fun f(x:int):int=if 1<2then 3else 4end", "fun f():row(1)=new1", "fun f():int=let x=1in 2",
+            "fun f():int=out1+out2");
         BENCH.dueSigns("^funf():int=1", "fun f():int=letx^=1 in x", "fun f(): int = 1^x", "fun f^1(): int = 1",
             "fun f(): int = x^1");
     }
@@ -203,7 +232,8 @@ public final class LineBoundaryTest {
     private static void namesAreNotKeptWords() {
         BENCH.sentence("NAMES are all WORDS but fun int row let in if then else end len new out");
         for (String kept : KEPT) {
-            BENCH.dueSigns("fun ^" + kept + "(): int = 1", "fun f{^" + kept + "}(): int = 1", "fun f(^" + kept + ": int): int = 1",
+            BENCH.dueSigns("fun ^" + kept + "(): int = 1", "fun f{^" + kept + "}(): int = 1", "fun f(^" + kept
+                + ": int): int = 1",
                 "fun f(): int = let ^" + kept + " = 1 in 1", "fun f(): int(^" + kept + ") = 1", "fun f(): int = len ^" + kept,
                 "fun f(): int{^" + kept + " | 1 < 2} = 1");
         }
@@ -213,7 +243,8 @@ public final class LineBoundaryTest {
         BENCH.sentence("NAMES are all other WORDS");
         for (String kept : KEPT) {
             for (String near : new String[] {kept + "s", "x" + kept, kept.substring(1), kept + kept.charAt(0)}) {
-                BENCH.dueCheck(1, "fun " + near + "(" + near + ": int): int(" + near + ") = let " + near + " = " + near + " in " + near);
+                BENCH.dueCheck(1, "fun " + near + "(" + near + ": int): int(" + near + ") = let " + near + " = " + near + " in "
+                + near);
             }
         }
     }

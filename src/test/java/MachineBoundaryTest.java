@@ -9,7 +9,6 @@ public final class MachineBoundaryTest {
     private static final int NEGATIVE = IndexedCompiler.NEGATIVE;
     private static final int MEMORY = IndexedCompiler.MEMORY;
     private static final int OUTSIDE = IndexedCompiler.OUTSIDE;
-    private static final String[] RELATIONS = {"<", "<=", "=", ">=", ">"};
     private static final Bench BENCH = new Bench("MachineBoundaryTest");
 
     public static void main(String[] args) {
@@ -18,6 +17,7 @@ public final class MachineBoundaryTest {
         slotsOfTheOtherKind();
         slotsInTheirOrder();
         valuesInTheirOrder();
+        parametersInIndexes();
         propsThatDoNotHold();
         typesThatDoNotHold();
         exactTypesThatDoNotHold();
@@ -173,18 +173,34 @@ public final class MachineBoundaryTest {
         dueFit(false, 1);
     }
 
-    private static boolean holds(int r, int left, int right) {
-        return r == 0 ? left < right : r == 1 ? left <= right : r == 2 ? left == right : r == 3 ? left >= right : left > right;
+    private static void parametersInIndexes() {
+        BENCH.sentence("that a PARAMETER is of its TYPE: by the SLOTS of those before it");
+        for (int k = 0; k < 4; k++) {
+            BENCH.dueCheck(1, "fun f{n}(a: int, b: int, c: int, d: int, e: int(" + "abcd".charAt(k) + ")): int = 1");
+            BENCH.c.value(0, 99);
+            dueFit(true, 10, 11, 12, 13, 10 + k);
+            dueFit(false, 10, 11, 12, 13, 14);
+            dueFit(false, 10, 11, 12, 13, 99);
+        }
+        // A NAME of one letter is a NAME as others are.
+        for (char name = 'a'; name <= 'z'; name++) {
+            BENCH.dueCheck(1, "fun f{" + name + " | " + name + " > 4}(ff: int(" + name + ")): int = 1");
+            BENCH.c.value(0, 5);
+            dueFit(true, 5);
+            dueFit(false, 0);
+            BENCH.c.value(0, 4);
+            dueFit(false, 4);
+        }
     }
 
     private static void propsThatDoNotHold() {
         BENCH.sentence("UNFIT, then if its PROPS do not hold");
         for (int r = 0; r < 5; r++) {
-            BENCH.dueCheck(1, "fun f{n, m | n " + RELATIONS[r] + " 2*m + 1}(): int = 1");
+            BENCH.dueCheck(1, "fun f{n, m | n " + Bench.RELATIONS[r] + " 2*m + 1}(): int = 1");
             BENCH.c.value(1, 5);
             for (int n = 10; n <= 12; n++) {
                 BENCH.c.value(0, n);
-                dueFit(holds(r, n, 11));
+                dueFit(Bench.holds(r, n, 11));
             }
         }
         for (int wrong = 0; wrong <= 4; wrong++) {
@@ -202,10 +218,10 @@ public final class MachineBoundaryTest {
     private static void typesThatDoNotHold() {
         BENCH.sentence("UNFIT, or that a PARAMETER is of its TYPE, does not hold: int { i | P }, and int");
         for (int r = 0; r < 5; r++) {
-            BENCH.dueCheck(1, "fun f{n}(y: int, x: int{i | i " + RELATIONS[r] + " n + y}): int = 1");
+            BENCH.dueCheck(1, "fun f{n}(y: int, x: int{i | i " + Bench.RELATIONS[r] + " n + y}): int = 1");
             BENCH.c.value(0, 3);
             for (int x = 10; x <= 12; x++) {
-                dueFit(holds(r, x, 11), 8, x);
+                dueFit(Bench.holds(r, x, 11), 8, x);
             }
         }
         BENCH.dueCheck(1, "fun f(x: int{i | i >= 0 & i <= 9 & 2*i >= 3 & 3*i <= 20}): int = 1");
@@ -373,7 +389,8 @@ public final class MachineBoundaryTest {
         BENCH.due("most calls", BENCH.c.told(6), 60);
         dueRun(STACK, 0, 61);
         // By several functions, and behind calls that are over.
-        BENCH.dueCheck(1, "fun f(x: int): int = g(3); g(x)", "fun g(x: int): int = if x > 1 then h(x - 1) else 7 end", "fun h(x: int): int = if x > 1 then g(x - 1) else 8 end");
+        BENCH.dueCheck(1, "fun f(x: int): int = g(3); g(x)", "fun g(x: int): int = if x > 1 then h(x - 1) else 7 end",
+            "fun h(x: int): int = if x > 1 then g(x - 1) else 8 end");
         dueRun(1, 7, 59);
         BENCH.due("most calls", BENCH.c.told(6), 60);
         dueRun(STACK, 0, 60);
@@ -479,6 +496,10 @@ public final class MachineBoundaryTest {
         BENCH.c.make(0, 0);
         dueRun(1, 1);
         BENCH.due("of an empty row", BENCH.c.told(7), 1);
+        BENCH.c.make(1, 40);
+        BENCH.c.make(5, 40);
+        dueRun(1, 1);
+        BENCH.due("a SLOT that is no PARAMETER takes none", BENCH.c.told(7), 1);
     }
 
     private static void noneComesBack() {
@@ -586,21 +607,23 @@ public final class MachineBoundaryTest {
     private static void relationsAtTheirBoundary() {
         BENCH.sentence("17 .. 21 go on at n unless the RELATION holds");
         for (int r = 0; r < 5; r++) {
-            BENCH.dueCheck(1, "fun f(x: int, y: int): int = if x " + RELATIONS[r] + " y then 1 else 2 end");
+            BENCH.dueCheck(1, "fun f(x: int, y: int): int = if x " + Bench.RELATIONS[r] + " y then 1 else 2 end");
             for (int x = 6; x <= 8; x++) {
-                dueRun(1, holds(r, x, 7) ? 1 : 2, x, 7);
-                dueRun(1, holds(r, -x, -7) ? 1 : 2, -x, -7);
+                dueRun(1, Bench.holds(r, x, 7) ? 1 : 2, x, 7);
+                dueRun(1, Bench.holds(r, -x, -7) ? 1 : 2, -x, -7);
             }
-            dueRun(1, holds(r, -MILLIARD, MILLIARD) ? 1 : 2, -MILLIARD, MILLIARD);
-            dueRun(1, holds(r, MILLIARD, -MILLIARD) ? 1 : 2, MILLIARD, -MILLIARD);
+            dueRun(1, Bench.holds(r, -MILLIARD, MILLIARD) ? 1 : 2, -MILLIARD, MILLIARD);
+            dueRun(1, Bench.holds(r, MILLIARD, -MILLIARD) ? 1 : 2, MILLIARD, -MILLIARD);
         }
     }
 
     private static void stepsGoFirst() {
         BENCH.sentence("Of several, STEPS goes first");
         String[] texts = {
-            "fun f(x: int, a: row(1)): int = 1 + (1 + (1 + (1 + f(x, a))))", "fun f(x: int, a: row(1)): int = f(x, a)", "fun f(x: int, a: row(1)): int = 1; x + x", "fun f(x: int, a: row(1)): int = 0 - x - x",
-            "fun f(x: int, a: row(1)): int = x * x", "fun f(x: int, a: row(1)): int = new (0 - x); 1", "fun f(x: int, a: row(1)): int = new x; 1", "fun f(x: int, a: row(1)): int = a[x]",
+            "fun f(x: int, a: row(1)): int = 1 + (1 + (1 + (1 + f(x, a))))", "fun f(x: int, a: row(1)): int = f(x, a)",
+            "fun f(x: int, a: row(1)): int = 1; x + x", "fun f(x: int, a: row(1)): int = 0 - x - x",
+            "fun f(x: int, a: row(1)): int = x * x", "fun f(x: int, a: row(1)): int = new (0 - x); 1",
+            "fun f(x: int, a: row(1)): int = new x; 1", "fun f(x: int, a: row(1)): int = a[x]",
             "fun f(x: int, a: row(1)): int = a[x] := 1"
         };
         int[] faults = {STACK, STACK, OVER, OVER, OVER, NEGATIVE, MEMORY, OUTSIDE, OUTSIDE};
@@ -721,7 +744,8 @@ public final class MachineBoundaryTest {
 
     private static void aHundredAreKept() {
         BENCH.sentence("printed: the first 100 are kept");
-        BENCH.dueCheck(1, "fun f(x: int): int = if x > 0 then out x; out (x + 500); f(x - 1) else 0 end", "fun g(x: int, y: int): int = out y; f(x)");
+        BENCH.dueCheck(1, "fun f(x: int): int = if x > 0 then out x; out (x + 500); f(x - 1) else 0 end",
+            "fun g(x: int, y: int): int = out y; f(x)");
         int[] function = {1, 0, 1};
         int[] x = {49, 50, 50};
         int[] printed = {99, 100, 101};

@@ -35,7 +35,8 @@ public final class ManyBoundaryTest {
         BENCH.sentence("MANY: a number in the EXPRESSION would be beyond 1,000,000 (at the INDEX's first character)");
         String[][] headers = {
             {"fun f{n}(x: int(999*n), y: int(^", ")): int = 1"}, {"fun f{n}(x: int(999*n), y: row(^", ")): int = 1"},
-            {"fun f{n}(x: int(999*n), y: int{i | ^", " < 1}): int = 1"}, {"fun f{n}(x: int(999*n), y: int{i | 1 < ^", "}): int = 1"},
+            {"fun f{n}(x: int(999*n), y: int{i | ^", " < 1}): int = 1"}, {"fun f{n}(x: int(999*n), y: int{i | 1 < ^",
+            "}): int = 1"},
             {"fun f{n}(x: int(999*n), y: int{i | 1 < i & i > ^", "}): int = 1"}
         };
         for (String[] both : headers) {
@@ -55,13 +56,15 @@ public final class ManyBoundaryTest {
     private static void indexesOfSteps() {
         BENCH.sentence("MANY: an INDEX of STEPS beyond 1,000,000");
         String lets = "fun f{n}(x: int): int = let k = 1 + 999 in let m = k*k in let z = m*x in ";
-        String[] marked = {"(0 : int(^?)); 1", "(new 1 : row(^?)); 1", "(0 : int{i | ^? < 1}); 1", "(0 : int{i | i > 0 & 1 < ^?}); 1", "f{^?}(x)"};
+        String[] marked = {"(0 : int(^?)); 1", "(new 1 : row(^?)); 1", "(0 : int{i | ^? < 1}); 1",
+            "(0 : int{i | i > 0 & 1 < ^?}); 1", "f{^?}(x)"};
         for (String each : marked) {
             for (String fits : new String[] {"m", "z", "0 - m", "0 - z", "m + z", "z - m", "m + 0*z"}) {
                 BENCH.functions(lets + each.replace("^", "").replace("?", fits));
                 BENCH.due("no fault: " + each + " with " + fits, BENCH.c.check() >= 0, true);
             }
-            for (String beyond : new String[] {"m + 1", "z + x", "0 - m - 1", "0 - z - x", "2*z", "z + m + 1", "m + z + x", "x + z"}) {
+            for (String beyond : new String[] {"m + 1", "z + x", "0 - m - 1", "0 - z - x", "2*z", "z + m + 1", "m + z + x",
+                "x + z"}) {
                 BENCH.dueFault(MANY, 0, lets + each.replace("?", beyond));
             }
         }
@@ -88,9 +91,11 @@ public final class ManyBoundaryTest {
     private static void indexesOfACallsFunction() {
         BENCH.sentence("MANY: if a CALL makes it of its function's INDEXES, at the CALL's NAME");
         String[] functions = {
-            "fun g{n | 2*n >= n}(k: int): int = 1", "fun g{n | 0 < 2*n + n - n}(k: int): int = 1", "fun g{n}(k: int, l: int(2*k)): int = 1", "fun g{n}(k: int, a: row(2*k)): int = 1",
+            "fun g{n | 2*n >= n}(k: int): int = 1", "fun g{n | 0 < 2*n + n - n}(k: int): int = 1",
+            "fun g{n}(k: int, l: int(2*k)): int = 1", "fun g{n}(k: int, a: row(2*k)): int = 1",
             "fun g{n}(k: int, l: int{i | 2*k = i}): int = 1", "fun g{n}(k: int, l: int{i | i = 2*k}): int = 1",
-            "fun g{n}(k: int): int(2*k) = 2*k", "fun g{n}(k: int): row(2*k) = new (2*k)", "fun g{n}(k: int): int{r | r = 2*k} = 2*k"
+            "fun g{n}(k: int): int(2*k) = 2*k", "fun g{n}(k: int): row(2*k) = new (2*k)",
+            "fun g{n}(k: int): int{r | r = 2*k} = 2*k"
         };
         for (String g : functions) {
             boolean isRow = g.contains("a: row");
@@ -127,12 +132,15 @@ public final class ManyBoundaryTest {
 
     private static void sumsAndProductsBeyond() {
         BENCH.sentence("(Of these three: a new VARIABLE, too, if a number in it would be beyond 1,000,000.)");
-        for (String fits : new String[] {"m + 0", "z + 0", "0 - m", "0 - z", "m - m", "z + m", "m - 1 + 1", "z - x + x", "m * 1", "z * (0 - 1)", "1 * z", "k * k", "k * k * x",
+        for (String fits : new String[] {"m + 0", "z + 0", "0 - m", "0 - z", "m - m", "z + m", "m - 1 + 1", "z - x + x", "m * 1",
+            "z * (0 - 1)", "1 * z", "k * k", "k * k * x",
             "x * k * k", "(0 - k) * k", "0 * z", "z * 0", "m * x", "x * m"}) {
             dueVariables(1, fits);
         }
-        for (String beyond : new String[] {"m + 1", "1 + m", "z + x", "x + z", "0 - m - 1", "0 - z - x", "m - (0 - 1)", "z - (0 - x)", "m * 2", "2 * m", "z * 2", "2 * z",
-            "z * (0 - 2)", "(0 - 2) * z", "m * m", "z * m", "m * z", "k * (k + 1)", "k * k * (x + x)", "k * x * (k + 1)", "m + 1 - 1"}) {
+        for (String beyond : new String[] {"m + 1", "1 + m", "z + x", "x + z", "0 - m - 1", "0 - z - x", "m - (0 - 1)",
+            "z - (0 - x)", "m * 2", "2 * m", "z * 2", "2 * z",
+            "z * (0 - 2)", "(0 - 2) * z", "m * m", "z * m", "m * z", "k * (k + 1)", "k * k * (x + x)", "k * x * (k + 1)",
+            "m + 1 - 1"}) {
             dueVariables(2, beyond);
         }
         // From the left on, each time of its own.
@@ -177,10 +185,14 @@ public final class ManyBoundaryTest {
     private static void variables() {
         BENCH.sentence("MANY: there would be more than 24 VARIABLES at a time (at the first character of what makes them)");
         String[] makers = {
-            "^x*x", "1 + ^x*x", "1 + ^x * 2 * x", "^(x)*x", "^x/2", "1 - ^x/2", "2 * (^1/1)", "^a[0]", "1 + ^a[0]", "2 * ^a[0] - 1", "a[0] := ^a[0]", "^(x : int)",
-            "1 + ^(x : int)", "^(x : int{i | i = x})", "^f(x, a)", "1 + ^f(x, a)", "^g(x)", "2 * ^g(x)", "^999*999 + 999*999", "3 * (^999*999 + 999*999)",
-            "^0 - 999*999 - 999*999", "^999*999*2", "5 + ^999*999*2", "(^if x < 1 then 1 else 2 end) + 1", "let y = ^if x < 1 then 1 else 2 end in 1",
-            "let b = ^if x < 1 then new 1 else new 2 end in 1", "new (^x*x); 1", "if ^x*x < 1 then 1 else 2 end", "if 1 < ^x*x then 1 else 2 end",
+            "^x*x", "1 + ^x*x", "1 + ^x * 2 * x", "^(x)*x", "^x/2", "1 - ^x/2", "2 * (^1/1)", "^a[0]", "1 + ^a[0]",
+            "2 * ^a[0] - 1", "a[0] := ^a[0]", "^(x : int)",
+            "1 + ^(x : int)", "^(x : int{i | i = x})", "^f(x, a)", "1 + ^f(x, a)", "^g(x)", "2 * ^g(x)", "^999*999 + 999*999",
+            "3 * (^999*999 + 999*999)",
+            "^0 - 999*999 - 999*999", "^999*999*2", "5 + ^999*999*2", "(^if x < 1 then 1 else 2 end) + 1",
+            "let y = ^if x < 1 then 1 else 2 end in 1",
+            "let b = ^if x < 1 then new 1 else new 2 end in 1", "new (^x*x); 1", "if ^x*x < 1 then 1 else 2 end",
+            "if 1 < ^x*x then 1 else 2 end",
             "if x < 1 then ^x*x else 1 end", "if x < 1 then 1 else ^x*x end", "h(^x*x)", "h((1; ^x/1))"
         };
         for (String each : makers) {
@@ -192,8 +204,10 @@ public final class ManyBoundaryTest {
     private static void noVariables() {
         BENCH.sentence("what makes no VARIABLE may stand behind 24");
         String[] others = {
-            "1", "x", "x + x", "2*x", "x*0*x", "x - x", "999*999", "len a", "new 1; 1", "out x", "(x)", "(x; x)", "a[0] := x", "(x : int(x))", "let b = (a : row(1)) in 1",
-            "h(x)", "k(x); 1", "let y = x in y", "if x < 1 then 1 else 2 end", "let y = if x < 1 then x else x end in y", "let b = if x < 1 then a else a end in 1"
+            "1", "x", "x + x", "2*x", "x*0*x", "x - x", "999*999", "len a", "new 1; 1", "out x", "(x)", "(x; x)", "a[0] := x",
+            "(x : int(x))", "let b = (a : row(1)) in 1",
+            "h(x)", "k(x); 1", "let y = x in y", "if x < 1 then 1 else 2 end", "let y = if x < 1 then x else x end in y",
+            "let b = if x < 1 then a else a end in 1"
         };
         for (String each : others) {
             BENCH.dueCheck(1, atVariables(24, each));
@@ -210,7 +224,8 @@ public final class ManyBoundaryTest {
         BENCH.dueCheck(1, atVariables(23, "(if x < 1 then x*x else x*x end); 1"));
         BENCH.dueFault(MANY, 0, atVariables(23, "(if x < 1 then x*x else x*x end); ^x*x"));
         BENCH.dueFault(MANY, 0, atVariables(24, "(^if x < 1 then x else 1 end); 1"));
-        BENCH.dueCheck(1, atVariables(22, "(if x < 1 then (if x < 0 then x*x; 1 else x*x; 1 end) else x*x; x*x; 1 end); x*x; x*x"));
+        BENCH.dueCheck(1, atVariables(22,
+            "(if x < 1 then (if x < 0 then x*x; 1 else x*x; 1 end) else x*x; x*x; 1 end); x*x; x*x"));
     }
 
     private static void variablesOfChoicesThatAreRows() {
@@ -247,14 +262,17 @@ public final class ManyBoundaryTest {
     private static void facts() {
         BENCH.sentence("MANY: there would be more than 48 FACTS at a time (at the first character of what makes them)");
         String[] one = {
-            "^new 1; 1", "let b = ^new 1 in 1", "len a; ^new (1 + 1); 1", "1 + ^(1 : int{i | i > 0})", "^(x : int{i | i >= x})", "let b = ^(a : row(1)) in 1", "^(a : row(1)); 1", "^k(x); 1",
-            "let b = ^k(x) in 1", "^if x < 1 then 1 else 2 end", "1 + (^if x < 1 then 1 else 1 end)", "^if x >= 1 then 1 else 2 end", "^if x > 1 then 1 else 2 end", "^if x <= 1 then 1 else 2 end",
+            "^new 1; 1", "let b = ^new 1 in 1", "len a; ^new (1 + 1); 1", "1 + ^(1 : int{i | i > 0})", "^(x : int{i | i >= x})",
+            "let b = ^(a : row(1)) in 1", "^(a : row(1)); 1", "^k(x); 1",
+            "let b = ^k(x) in 1", "^if x < 1 then 1 else 2 end", "1 + (^if x < 1 then 1 else 1 end)",
+            "^if x >= 1 then 1 else 2 end", "^if x > 1 then 1 else 2 end", "^if x <= 1 then 1 else 2 end",
             "let b = ^if x < 1 then a else a end in 1"
         };
         for (String each : one) {
             dueFacts(1, each);
         }
-        String[] two = {"^x/2", "1 + ^x/2", "2 - ^5/999", "^if x = 1 then 1 else 2 end", "(^if x = 1 then 1 else 1 end) + 1", "1 + ^(1 : int{i | i = 1})", "^g(x)", "2 * ^g(x)",
+        String[] two = {"^x/2", "1 + ^x/2", "2 - ^5/999", "^if x = 1 then 1 else 2 end", "(^if x = 1 then 1 else 1 end) + 1",
+            "1 + ^(1 : int{i | i = 1})", "^g(x)", "2 * ^g(x)",
             "if x < 1 then ^new 1; 1 else 1 end", "if x < 1 then 1 else ^new 1; 1 end"};
         for (String each : two) {
             dueFacts(2, each);
@@ -267,7 +285,8 @@ public final class ManyBoundaryTest {
 
     private static void noFacts() {
         BENCH.sentence("what makes no FACT may stand behind 48");
-        String[] others = {"1", "x*x", "a[0]", "a[0] := 1", "len a", "(x : int)", "(x : int(x))", "h(x)", "f(x, a)", "let y = x in y", "out x", "x + 999*999", "(x; a; x)"};
+        String[] others = {"1", "x*x", "a[0]", "a[0] := 1", "len a", "(x : int)", "(x : int(x))", "h(x)", "f(x, a)",
+            "let y = x in y", "out x", "x + 999*999", "(x; a; x)"};
         for (String each : others) {
             BENCH.dueCheck(1, atFacts(48, each));
         }
@@ -303,7 +322,8 @@ public final class ManyBoundaryTest {
 
     /** A function with so many GOALS, all of them PROVED. */
     private static String goals(char name, int many) {
-        return "fun " + name + "(a: row(1)): int = " + (many % 2 == 1 ? "(1:int{i|i>0});" : "") + "a[0]:=0;".repeat(many / 2) + "0";
+        return "fun " + name + "(a: row(1)): int = " + (many % 2 == 1 ? "(1:int{i|i>0});" : "") + "a[0]:=0;".repeat(many / 2)
+            + "0";
     }
 
     private static void dueGoals(int makes, String marked) {
@@ -332,17 +352,20 @@ public final class ManyBoundaryTest {
 
     private static void goalsInAll() {
         BENCH.sentence("200 GOALS in all functions together");
-        BENCH.dueCheck(1, goals('a', 25), goals('b', 25), goals('c', 25), goals('d', 25), goals('e', 25), goals('f', 25), goals('g', 25), goals('h', 25));
+        BENCH.dueCheck(1, goals('a', 25), goals('b', 25), goals('c', 25), goals('d', 25), goals('e', 25), goals('f', 25),
+            goals('g', 25), goals('h', 25));
         BENCH.due("goals", BENCH.c.count(1), 200);
         BENCH.due("check again", BENCH.c.check(), 1);
         BENCH.due("goals again", BENCH.c.count(1), 200);
-        String[] eight = {goals('a', 25), goals('b', 25), goals('c', 25), goals('d', 25), goals('e', 25), goals('f', 25), goals('g', 25), goals('h', 26).replace("a[0]:=0;0", "^a[0]:=0;0")};
+        String[] eight = {goals('a', 25), goals('b', 25), goals('c', 25), goals('d', 25), goals('e', 25), goals('f', 25),
+            goals('g', 25), goals('h', 26).replace("a[0]:=0;0", "^a[0]:=0;0")};
         BENCH.dueFault(MANY, 7, eight);
     }
 
     private static void locals() {
         BENCH.sentence("MANY: more than 10 PARAMETERS and let in one another (at the let's NAME, behind working out what it is)");
-        String[] headers = {"fun f(): int = ", "fun f(a: int): int = ", "fun f{n, m}(a: int, b: row(n)): int = ", "fun f(a: int, b: int, c: int): int = ",
+        String[] headers = {"fun f(): int = ", "fun f(a: int): int = ", "fun f{n, m}(a: int, b: row(n)): int = ",
+            "fun f(a: int, b: int, c: int): int = ",
             "fun f{n, m, p, q}(a: int, b: int, c: int, d: int): int = ", "fun f(a: int, b: int, c: int, d: int, e: int): int = "};
         for (int parameters = 0; parameters <= 5; parameters++) {
             String lets = headers[parameters] + "let x = 1 in ".repeat(10 - parameters);
@@ -362,6 +385,7 @@ public final class ManyBoundaryTest {
         BENCH.dueFault(MANY, 0, lets + "let y = 1 in (let ^z = 1 in z)");
         BENCH.dueFault(MANY, 0, lets + "let y = (let z = 1 in 1; let ^w = 2 in w) in y");
         BENCH.dueCheck(1, "fun f(): int = " + "(let x = 1 in x);".repeat(25) + "1");
-        BENCH.dueCheck(1, "fun f(): int = if 1 < 2 then " + "let x=1 in ".repeat(10) + "1 else " + "let y=1 in ".repeat(10) + "2 end");
+        BENCH.dueCheck(1, "fun f(): int = if 1 < 2 then " + "let x=1 in ".repeat(10) + "1 else " + "let y=1 in ".repeat(10)
+            + "2 end");
     }
 }

@@ -2,7 +2,6 @@
 public final class ProvedBoundaryTest {
     private static final int MILLION = 1000000;
     private static final int NO_BOUND = Integer.MIN_VALUE;
-    private static final String[] RELATIONS = {"<", "<=", "=", ">=", ">"};
     // Of a number that stands in each RELATION to 5.
     private static final int[] LEAST = {NO_BOUND, NO_BOUND, 5, 5, 6};
     private static final int[] MOST = {4, 5, 5, NO_BOUND, NO_BOUND};
@@ -40,6 +39,7 @@ public final class ProvedBoundaryTest {
         numbersBeforeVariables();
         beyondAtTheBeginning();
         beyondBeforeItIsFalse();
+        theNextOneIsLookedAtAnew();
         eightyAreKept();
         whatIsNotCountedAmongEighty();
         withoutVariablesLeft();
@@ -66,8 +66,8 @@ public final class ProvedBoundaryTest {
     private static void factsOfPropsOfAFunction() {
         BENCH.sentence("A PROP a r b is told so: < as b - a - 1; <= as b - a; = as b - a and a - b; >= as a - b; > as a - b - 1 (a function's PROPS are FACTS)");
         for (int r = 0; r < 5; r++) {
-            dueBounds("fun f{n | n " + RELATIONS[r] + " 5}(): int = ?", "n", LEAST[r], MOST[r]);
-            dueBounds("fun f{n | 5 " + RELATIONS[r] + " n}(): int = ?", "n", LEAST[4 - r], MOST[4 - r]);
+            dueBounds("fun f{n | n " + Bench.RELATIONS[r] + " 5}(): int = ?", "n", LEAST[r], MOST[r]);
+            dueBounds("fun f{n | 5 " + Bench.RELATIONS[r] + " n}(): int = ?", "n", LEAST[4 - r], MOST[4 - r]);
         }
         dueBounds("fun f{n}(): int = ?", "n", NO_BOUND, NO_BOUND);
         dueBounds("fun f{n | n > 3 & n < 9 & n <= 7 & n >= 5}(): int = ?", "n", 5, 7);
@@ -76,8 +76,8 @@ public final class ProvedBoundaryTest {
     private static void factsOfParameters() {
         BENCH.sentence("int { i | P }: a new VARIABLE, P being FACTS, i being it; int: a new VARIABLE; int ( I ): I");
         for (int r = 0; r < 5; r++) {
-            dueBounds("fun f(x: int{i | i " + RELATIONS[r] + " 5}): int = ?", "x", LEAST[r], MOST[r]);
-            dueBounds("fun f(x: int{i | 5 " + RELATIONS[r] + " i}): int = ?", "x", LEAST[4 - r], MOST[4 - r]);
+            dueBounds("fun f(x: int{i | i " + Bench.RELATIONS[r] + " 5}): int = ?", "x", LEAST[r], MOST[r]);
+            dueBounds("fun f(x: int{i | 5 " + Bench.RELATIONS[r] + " i}): int = ?", "x", LEAST[4 - r], MOST[4 - r]);
         }
         dueBounds("fun f(x: int): int = ?", "x", NO_BOUND, NO_BOUND);
         dueBounds("fun f(x: int(5)): int = ?", "x", 5, 5);
@@ -88,17 +88,19 @@ public final class ProvedBoundaryTest {
     private static void factsOfThen() {
         BENCH.sentence("if a r b then c: c with the FACTS of a r b");
         for (int r = 0; r < 5; r++) {
-            dueBounds("fun f(x: int): int = if x " + RELATIONS[r] + " 5 then ? else 0 end", "x", LEAST[r], MOST[r]);
-            dueBounds("fun f(x: int): int = let y = if 5 " + RELATIONS[r] + " x then ? else 0 end in 0", "x", LEAST[4 - r], MOST[4 - r]);
-            dueBounds("fun f(x: int): int = (if x " + RELATIONS[r] + " 5 then 0 else 0 end); ?", "x", NO_BOUND, NO_BOUND);
+            dueBounds("fun f(x: int): int = if x " + Bench.RELATIONS[r] + " 5 then ? else 0 end", "x", LEAST[r], MOST[r]);
+            dueBounds("fun f(x: int): int = let y = if 5 " + Bench.RELATIONS[r] + " x then ? else 0 end in 0", "x", LEAST[4 - r],
+                MOST[4 - r]);
+            dueBounds("fun f(x: int): int = (if x " + Bench.RELATIONS[r] + " 5 then 0 else 0 end); ?", "x", NO_BOUND, NO_BOUND);
         }
     }
 
     private static void factsOfElse() {
         BENCH.sentence("else d: d with those of its contrary (of = none)");
         for (int r = 0; r < 5; r++) {
-            dueBounds("fun f(x: int): int = if x " + RELATIONS[r] + " 5 then 0 else ? end", "x", LEAST_NOT[r], MOST_NOT[r]);
-            dueBounds("fun f(x: int): int = let y = if x " + RELATIONS[r] + " 5 then 0 else ? end in 0", "x", LEAST_NOT[r], MOST_NOT[r]);
+            dueBounds("fun f(x: int): int = if x " + Bench.RELATIONS[r] + " 5 then 0 else ? end", "x", LEAST_NOT[r], MOST_NOT[r]);
+            dueBounds("fun f(x: int): int = let y = if x " + Bench.RELATIONS[r] + " 5 then 0 else ? end in 0", "x", LEAST_NOT[r],
+                MOST_NOT[r]);
         }
     }
 
@@ -106,7 +108,7 @@ public final class ProvedBoundaryTest {
         BENCH.sentence("( a : T ): it is LOOKED AT that a is T, then it HAS T");
         for (int r = 0; r < 5; r++) {
             int fits = LEAST[r] == NO_BOUND ? MOST[r] : LEAST[r];
-            dueBounds("fun f(): int = let x = (" + fits + " : int{i | i " + RELATIONS[r] + " 5}) in ?", "x", LEAST[r], MOST[r]);
+            dueBounds("fun f(): int = let x = (" + fits + " : int{i | i " + Bench.RELATIONS[r] + " 5}) in ?", "x", LEAST[r], MOST[r]);
         }
         dueBounds("fun f(): int = let x = (5 : int(5)) in ?", "x", 5, 5);
         dueBounds("fun f(): int = let x = (5 : int) in ?", "x", NO_BOUND, NO_BOUND);
@@ -116,7 +118,8 @@ public final class ProvedBoundaryTest {
         BENCH.sentence("A CALL: at last it HAS its TYPE");
         for (int r = 0; r < 5; r++) {
             int fits = LEAST[r] == NO_BOUND ? MOST[r] : LEAST[r];
-            dueBounds("fun f(): int = let x = g{5}(1) in ?", "x", LEAST[r], MOST[r], "fun g{n}(y: int): int{i | i " + RELATIONS[r] + " 5} = " + fits);
+            dueBounds("fun f(): int = let x = g{5}(1) in ?", "x", LEAST[r], MOST[r], "fun g{n}(y: int): int{i | i "
+                + Bench.RELATIONS[r] + " 5} = " + fits);
         }
         dueBounds("fun f(): int = let x = g{2}(3) in ?", "x", 8, 8, "fun g{n}(y: int): int(n + 2*y) = g{n}(y)");
         dueBounds("fun f(): int = let x = g{2}(3) in ?", "x", NO_BOUND, NO_BOUND, "fun g{n}(y: int): int = 1");
@@ -154,19 +157,15 @@ public final class ProvedBoundaryTest {
 
     // ---- GOALS, at the number where they begin to hold and next to it
 
-    private static boolean holds(int r, int left, int right) {
-        return r == 0 ? left < right : r == 1 ? left <= right : r == 2 ? left == right : r == 3 ? left >= right : left > right;
-    }
-
     private static void goalsByNumbers() {
         BENCH.sentence("THAT a IS T: int { i | P }: P, i being a; for int none");
         for (int r = 0; r < 5; r++) {
             for (int number = 4; number <= 6; number++) {
-                String type = "int{i | i " + RELATIONS[r] + " 5}";
-                BENCH.dueCheck(holds(r, number, 5) ? 1 : 0, "fun f(): " + type + " = " + number);
+                String type = "int{i | i " + Bench.RELATIONS[r] + " 5}";
+                BENCH.dueCheck(Bench.holds(r, number, 5) ? 1 : 0, "fun f(): " + type + " = " + number);
                 BENCH.due("goals", BENCH.c.count(1), r == 2 ? 2 : 1);
-                BENCH.dueCheck(holds(r, number, 5) ? 1 : 0, "fun f(): int = (" + number + " : " + type + ")");
-                BENCH.dueCheck(holds(r, 5, number) ? 1 : 0, "fun f(): int{i | 5 " + RELATIONS[r] + " i} = " + number);
+                BENCH.dueCheck(Bench.holds(r, number, 5) ? 1 : 0, "fun f(): int = (" + number + " : " + type + ")");
+                BENCH.dueCheck(Bench.holds(r, 5, number) ? 1 : 0, "fun f(): int{i | 5 " + Bench.RELATIONS[r] + " i} = " + number);
             }
         }
         BENCH.dueCheck(0, "fun f(): int{i | i = 5} = 4");
@@ -183,9 +182,11 @@ public final class ProvedBoundaryTest {
         BENCH.sentence("GOALS: its PROPS (sort 2), then for each PARAMETER that it is of its TYPE (sort 3)");
         for (int r = 0; r < 5; r++) {
             for (int number = 4; number <= 6; number++) {
-                BENCH.dueCheck(holds(r, number, 5) ? 1 : 0, "fun f(): int = g{" + number + "}()", "fun g{n | n " + RELATIONS[r] + " 5}(): int = 1");
+                BENCH.dueCheck(Bench.holds(r, number, 5) ? 1 : 0, "fun f(): int = g{" + number + "}()", "fun g{n | n " + Bench.RELATIONS[r]
+                    + " 5}(): int = 1");
                 BENCH.due("sort", BENCH.c.goal(0, 2), 2);
-                BENCH.dueCheck(holds(r, number, 5) ? 1 : 0, "fun f(): int = g(" + number + ")", "fun g(x: int{i | i " + RELATIONS[r] + " 5}): int = 1");
+                BENCH.dueCheck(Bench.holds(r, number, 5) ? 1 : 0, "fun f(): int = g(" + number + ")", "fun g(x: int{i | i "
+                    + Bench.RELATIONS[r] + " 5}): int = 1");
                 BENCH.due("sort", BENCH.c.goal(0, 2), 3);
                 BENCH.dueCheck(number == 5 ? 1 : 0, "fun f(): int = g{5}(" + number + ")", "fun g{n}(x: int(n)): int = 1");
                 BENCH.dueCheck(number == 5 ? 1 : 0, "fun f(): int = g(new " + number + ")", "fun g(a: row(5)): int = 1");
@@ -195,7 +196,8 @@ public final class ProvedBoundaryTest {
         BENCH.dueCheck(1, "fun f(): int = g{3}(3, 0, 4, new 7)", g);
         int at = "fun f(): int = ".length();
         BENCH.dueGoals(new int[][] {
-            {0, at, 2, 1, 1, 0}, {0, at, 2, 1, 1, 0}, {0, at, 3, 1, 1, 0}, {0, at, 3, 1, 1, 0}, {0, at, 3, 1, 1, 0}, {0, at, 3, 1, 1, 0}, {0, at, 3, 1, 1, 0}
+            {0, at, 2, 1, 1, 0}, {0, at, 2, 1, 1, 0}, {0, at, 3, 1, 1, 0}, {0, at, 3, 1, 1, 0}, {0, at, 3, 1, 1, 0}, {0, at, 3,
+            1, 1, 0}, {0, at, 3, 1, 1, 0}
         });
         BENCH.dueCheck(0, "fun f(): int = g{3}(3, 0, 3, new 6)", g);
         BENCH.due("that of z alone is not PROVED", BENCH.c.count(2) * 10 + BENCH.c.goal(4, 3), 60);
@@ -204,7 +206,8 @@ public final class ProvedBoundaryTest {
     private static void goalsOfExactTypes() {
         BENCH.sentence("THAT a IS T: int ( I ) and row ( I ): a - I, I - a");
         for (int number = 4; number <= 6; number++) {
-            String[] texts = {"fun f(): int(5) = " + number, "fun f(): row(5) = new " + number, "fun f(): int = (" + number + " : int(5))", "fun f(): int = (new " + number + " : row(5)); 1"};
+            String[] texts = {"fun f(): int(5) = " + number, "fun f(): row(5) = new " + number, "fun f(): int = (" + number
+                + " : int(5))", "fun f(): int = (new " + number + " : row(5)); 1"};
             for (String text : texts) {
                 BENCH.dueCheck(number == 5 ? 1 : 0, text);
                 BENCH.due("goals", BENCH.c.count(1), 2);
@@ -250,7 +253,8 @@ public final class ProvedBoundaryTest {
             for (int number : new int[] {limit + 1, -limit - 1, Integer.MAX_VALUE, Integer.MIN_VALUE}) {
                 int[] four = new int[4];
                 four[place] = number;
-                BENCH.dueThrow("fact of " + number + " at " + place, Bench.ARGUMENT, () -> c.fact(four[0], four[1], four[2], four[3]));
+                BENCH.dueThrow("fact of " + number + " at " + place, Bench.ARGUMENT, () -> c.fact(four[0], four[1], four[2],
+                    four[3]));
             }
         }
         BENCH.due("what threw is not there", c.forget(), many);
@@ -277,12 +281,14 @@ public final class ProvedBoundaryTest {
             for (int number : new int[] {limit, -limit}) {
                 int[] four = new int[4];
                 four[place] = number;
-                BENCH.due("ask of " + number + " at " + place, c.ask(four[0], four[1], four[2], four[3]), place == 3 && number > 0);
+                BENCH.due("ask of " + number + " at " + place, c.ask(four[0], four[1], four[2], four[3]), place == 3
+                    && number > 0);
             }
             for (int number : new int[] {limit + 1, -limit - 1, Integer.MAX_VALUE, Integer.MIN_VALUE}) {
                 int[] four = new int[4];
                 four[place] = number;
-                BENCH.dueThrow("ask of " + number + " at " + place, Bench.ARGUMENT, () -> c.ask(four[0], four[1], four[2], four[3]));
+                BENCH.dueThrow("ask of " + number + " at " + place, Bench.ARGUMENT, () -> c.ask(four[0], four[1], four[2],
+                    four[3]));
             }
         }
         BENCH.due("ask tells no fact", c.forget(), 0);
@@ -489,13 +495,15 @@ public final class ProvedBoundaryTest {
         BENCH.dueCheck(1, "fun f(): int = " + MILLION_LETS + "(m : int{i | 999*i + i > 0})");
         BENCH.dueCheck(0, "fun f(): int = " + MILLION_LETS + "(m : int{i | 999*i + i >= 0})");
         // The FACTS are against one another, but a number that is left out is beyond.
-        String contrary = "fun f(): int = " + MILLION_LETS + "let z = 0 - m in if 1 < 0 then (z : int{i | 999*i + i >= ?}) else 0 end";
+        String contrary = "fun f(): int = " + MILLION_LETS
+            + "let z = 0 - m in if 1 < 0 then (z : int{i | 999*i + i >= ?}) else 0 end";
         BENCH.dueCheck(1, contrary.replace("?", "0"));
         BENCH.dueCheck(1, contrary.replace("?", "1"));
         BENCH.dueCheck(0, contrary.replace("?", "2"));
         // As TIGHTENED: 2,000,000,000 x is x.
         BENCH.dueCheck(1, "fun f(x: int{i | i >= 0}): int = " + MILLION_LETS + "(m*x : int{i | 999*i + 999*i + 2*i >= 0})");
-        String mixed = "fun f(x: int{i | i >= 0}, y: int{i | i >= 0}): int = " + MILLION_LETS + "(m*x + ? : int{i | 999*i + i + y >= 0})";
+        String mixed = "fun f(x: int{i | i >= 0}, y: int{i | i >= 0}): int = " + MILLION_LETS
+            + "(m*x + ? : int{i | 999*i + i + y >= 0})";
         BENCH.dueCheck(1, mixed.replace("?", "0"));
         BENCH.dueCheck(0, mixed.replace("+ ?", "").replace("999*i + i", "999*i + i + x"));
     }
@@ -515,6 +523,24 @@ public final class ProvedBoundaryTest {
         // In the round before it is, g is PROVED: the round in which one would be beyond does not come.
         desk(row(0, 0, 1, -1), row(0, 0, -1, 0), row(1, 1000, 0, 1000000), row(0, -999, 0, 1000000));
         ask(true, 0, 0, 0, -1);
+    }
+
+    private static void theNextOneIsLookedAtAnew() {
+        BENCH.sentence("g is not PROVED: that one alone");
+        desk(row(1, 0, 0, 0), row(1, 0, 1000, 999999), row(0, 1, -999, 1001));
+        ask(false, 1, 0, 0, 0);
+        ask(true, 0, 0, 0, 5);
+        BENCH.c.forget();
+        BENCH.c.fact(1, 0, 0, 0);
+        ask(true, 1, 0, 0, 0);
+        ask(false, 0, 0, 0, -5);
+        BENCH.c.fact(0, 0, 0, -1);
+        ask(true, 0, 0, 0, -5);
+        BENCH.c.forget();
+        ask(false, 0, 0, 0, -5);
+        BENCH.dueCheck(0, "fun f(): int = " + MILLION_LETS + "(m : int{i | 999*i + i >= 0}); (m : int{i | i >= 0})");
+        BENCH.due("the first", BENCH.c.goal(0, 3), 0);
+        BENCH.due("the second", BENCH.c.goal(1, 3), 1);
     }
 
     /** 8 and 10 with v2 make 80 sums that are all different. */
@@ -553,6 +579,7 @@ public final class ProvedBoundaryTest {
         BENCH.c.fact(0, 0, 0, 5);
         BENCH.c.fact(0, 0, 0, 0);
         ask(true, 1, 3, 0, 0);
+        BENCH.c.fact(1, 0, 0, 7);
         BENCH.c.fact(1, 5, 0, 7);
         BENCH.c.fact(2, 10, 0, 9);
         ask(true, 1, 3, 0, 0);
